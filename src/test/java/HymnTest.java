@@ -304,6 +304,16 @@ public final class HymnTest {
     }
 
     private static void emptyAndFull() {
+        CHECKS.test(18, "Who joins in sings RIGHT, if he KNOWS it.", "one TUNE behind another: each by who KNOWS it", () -> {
+            WhichOneAllKnow x = State.read("tune 0;tune 6;voice 3 0 0 0 11;voice 6 0 1 2 9;knows 0 0;knows 1 0");
+            for (int time = 0; time < 3; time++) {
+                CHECKS.due("sung(0, 0, 0, 0)", x.sung(0, 0, 0, 0), 3);
+                CHECKS.due("sung(1, 0, 0, 0)", x.sung(1, 0, 0, 0), 0);
+                CHECKS.due("sung(1, 0, 0, 1)", x.sung(1, 0, 0, 1), 1);
+                CHECKS.due("sung(0, 0, 3, 0)", x.sung(0, 0, 3, 0), 3);
+                CHECKS.due("sung(1, 4, 9, 1)", x.sung(1, 4, 9, 1), 1);
+            }
+        });
         CHECKS.test(18, "VOICES (bits) at a VERSE (0 to 40): RIGHT (what 0)", "of nobody", () -> {
             for (int what = 0; what <= 3; what++) {
                 sung(State.read("tune 0"), 0, what, 0, 0);

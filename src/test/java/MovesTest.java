@@ -313,17 +313,18 @@ public final class MovesTest {
             WhichOneAllKnow x = singing();
             x.image();
             x.voice(0, 0, 0, 0, 0);
-            x.show(0, 0);
-            x.show(1, 1);
-            x.show(2, 2);
+            x.show(0, 2);
+            x.show(1, 0);
+            x.show(2, 1);
+            x.show(3, 2);
             x.show(7, 2);
             x.restore();
-            int[] held = {0, 1, NONE, NONE, NONE, NONE, NONE, NONE};
+            int[] held = {NONE, 0, 1, NONE, NONE, NONE, NONE, NONE};
             for (int s = 0; s < 8; s++) {
                 CHECKS.due("holds(" + s + ")", x.holds(s), held[s]);
             }
             x.voice(0, 0, 0, 0, 0);
-            CHECKS.due("holds(2), with a new VOICE 2", x.holds(2), NONE);
+            CHECKS.due("holds(0), with a new VOICE 2", x.holds(0), NONE);
         });
         CHECKS.test(41, "SHELVES with VOICES hold those of these numbers, or NOTHING", "he says what he was", () -> {
             WhichOneAllKnow x = singing();
@@ -356,9 +357,11 @@ public final class MovesTest {
             x.set(0, 1, 5);
             x.show(1, NONE);
             x.show(2, 1);
-            x.row(7, 2, 0);
+            for (int sort = 0; sort <= 3; sort++) {
+                x.row(4 + sort, sort, 1);
+            }
             x.restore();
-            int[] held = {101, NONE, 1, NONE, NONE, NONE, NONE, 102};
+            int[] held = {101, NONE, 1, NONE, 100, 101, 102, 103};
             for (int s = 0; s < 8; s++) {
                 CHECKS.due("holds(" + s + ")", x.holds(s), held[s]);
             }

@@ -182,6 +182,12 @@ public final class OutcomesTest {
             // TUNE 2 is HIGH 3: just in reach at PITCH 0
             CHECKS.due("of TOP 3", apart(3, ";knows 0 0;knows 1 2;knows 2 2").two(0), 2);
             CHECKS.due("of TOP 2", apart(2, ";knows 0 0;knows 1 2;knows 2 2").two(0), 1);
+            // so with the lesser of the two: TUNE 0 is HIGH 3
+            for (int top = 2; top <= 3; top++) {
+                WhichOneAllKnow z = State.read("tune 3;tune 0;tune 0;voice 1 0 0 0 " + top + ";voice 1 0 5 0 " + top
+                        + ";voice 1 0 18 0 11;voice 1 0 23 0 11;knows 0 0;knows 1 0;knows 2 1;knows 3 2");
+                CHECKS.due("of TOP " + top, z.two(0), top == 3 ? 1 : 12);
+            }
             // TUNE 2 comes to be sung by one more with each VERSE
             WhichOneAllKnow x = State.read("tune 0;tune 0;tune 0;voice 1 0 0 0 11;voice 1 0 22 0 11;voice 2 1 1 0 11;"
                     + "voice 1 0 18 0 11;knows 0 2;knows 1 0;knows 3 1");

@@ -14,6 +14,7 @@ public final class ServicesTest {
         judge();
         judgeRefuses();
         behind();
+        eachHymn();
         behindRefuses();
         done();
         doneRefuses();
@@ -228,6 +229,45 @@ public final class ServicesTest {
         });
         CHECKS.test(33, "Elements of a ROW of longs count by their lowest 32 bits", "more above", () ->
                 told(2, 2, 1, Long.MIN_VALUE + 2));
+    }
+
+    /** One more sings with each VERSE, up to ten; or, apart, one whose TOP is 0 to 5 each. */
+    private static WhichOneAllKnow asManyAs(boolean verses) {
+        String tunes = "tune 0;tune 0;tune 0;tune 0;tune 0;tune 0;";
+        return State.read(tunes + (verses
+                ? "voice 2 0 0 0 11;voice 2 1 1 0 11;voice 2 1 2 0 11;voice 2 1 3 0 11;voice 2 1 4 0 11;voice 2 1 5 0 11;"
+                        + "voice 2 1 11 0 11;voice 2 1 17 0 11;voice 2 1 22 0 11;voice 2 1 21 0 11"
+                : "voice 2 0 0 0 0;voice 2 0 2 0 1;voice 2 0 4 0 2;voice 2 0 12 0 3;voice 2 0 14 0 4;voice 2 0 16 0 5"));
+    }
+
+    private static void eachHymn() {
+        int[] byVerses = {1, 2, 3, 4, 5, 7, 8, 9, 10};
+        for (int promise = 33; promise <= 34; promise++) {
+            boolean inTruth = promise == 34;
+            CHECKS.test(promise, TOLD, "each TUNE of six, each PITCH, 1 to 9 VERSES" + (inTruth ? ", in truth" : ""), () -> {
+                for (int told = 1; told < 600; told++) {
+                    int pitch = told % 100 / 10;
+                    int n = told % 10;
+                    if (pitch <= 5 && n >= 1) {
+                        sungAsTold(inTruth, true, told, byVerses[n - 1]);
+                        sungAsTold(inTruth, false, told, 6 - pitch);
+                    }
+                }
+            });
+        }
+    }
+
+    private static void sungAsTold(boolean inTruth, boolean verses, int told, int due) {
+        WhichOneAllKnow x = asManyAs(verses);
+        State.row(x, 0, told);
+        if (!inTruth) {
+            CHECKS.due("behind(0, 1, 1) of " + told, x.behind(0, 1, 1), due);
+            CHECKS.due("behind(0, 1, 0) of " + told, x.behind(0, 1, 0), due);
+            return;
+        }
+        x.done(0, 1);
+        CHECKS.due("known(0, 1) behind " + told, x.known(0, 1), due);
+        CHECKS.due("TUNES of those who sang " + told, x.voiceOf(verses ? 0 : 5, 5), 1 << told / 100);
     }
 
     private static void behindRefuses() {

@@ -238,6 +238,9 @@ public final class TextTest {
             }
             faults("tuna 1", 3, "tunes 1", 4, "move 0 0", 4, "know 0 0", 4, "voices 0", 5, "waits 1", 4, "tune\0", 4);
         });
+        CHECKS.test(17, CANT_STAND, "; where a word or a NUMBER goes on, whatever comes behind it", () ->
+                faults("tun;x", 3, "wai;wait 1", 3, "wait;wait 1", 4, "wait ;x", 5, "voice 0;x", 7, "voice 0 0 0 0;x", 13,
+                        "wait 10;x", 5, "wait 1;knows;x", 12));
         CHECKS.test(17, CANT_STAND, "what stands behind an ITEM is neither ; nor the end", () ->
                 faults("tune 1,", 6, "tune 1x", 6, "tune 1\0", 6, "wait 1:wait 1", 6, "wait 01wait 1", 7, "knows 0 0 0", 9,
                         "knows 0 00;x", 11));
