@@ -1406,9 +1406,14 @@ public final class WhichOneAllKnow {
             return runBody(body, move, x, depth + 1);
         }
 
+        // the tens of a body's number say whose it is
+        private static int kindAboveThatOf(int body) {
+            int whose = body / 10 - 1;
+            return isKind(whose) ? ABOVE[whose] : NONE;
+        }
+
         private int runBody(int body, int move, int x, int depth) {
-            // the tens of a body's number say whose it is
-            int above = ABOVE[body / 10 - 1];
+            int above = kindAboveThatOf(body);
             switch (body) {
                 case 10:
                     return x + m;

@@ -163,7 +163,8 @@ public final class ChurchTest {
             CHECKS.due("voiceOf(0, 5)", x.voiceOf(0, 5), 0);
             CHECKS.due("voiceOf(1, 5) of the other", x.voiceOf(1, 5), 0);
         });
-        CHECKS.test(11, "KNOWS (TUNES, bits; none at first)", "the first and the last of six, of the twelfth VOICE", () -> {
+        CHECKS.test(11, "KNOWS (TUNES, bits; none at first)", "the first and the last of six, of the twelfth VOICE",
+                () -> {
             WhichOneAllKnow x = State.full();
             CHECKS.due("knows(11, 5, true)", x.knows(11, 5, true), 0);
             CHECKS.due("voiceOf(11, 5)", x.voiceOf(11, 5), 32);
@@ -176,20 +177,26 @@ public final class ChurchTest {
             CHECKS.due("voiceOf(10, 5)", x.voiceOf(10, 5), 0);
         });
         CHECKS.test(11, "whether he did (1, 0). -1.", "no such VOICE: just outside, and the farthest", () -> {
-            CHECKS.refusedEach(ChurchTest::small, -1, "knows(_, 0, true)", (x, v) -> x.knows(v, 0, true), Checks.outside(0, 1));
-            CHECKS.refusedEach(State::full, -1, "knows(_, 0, true) of 12", (x, v) -> x.knows(v, 0, true), Checks.outside(0, 11));
+            CHECKS.refusedEach(ChurchTest::small, -1, "knows(_, 0, true)", (x, v) -> x.knows(v, 0, true),
+                    Checks.outside(0, 1));
+            CHECKS.refusedEach(State::full, -1, "knows(_, 0, true) of 12", (x, v) -> x.knows(v, 0, true),
+                    Checks.outside(0, 11));
         });
         CHECKS.test(11, "whether he did (1, 0). -1.", "no such TUNE: just outside, and the farthest", () -> {
-            CHECKS.refusedEach(ChurchTest::small, -1, "knows(0, _, true)", (x, t) -> x.knows(0, t, true), Checks.outside(0, 1));
-            CHECKS.refusedEach(ChurchTest::small, -1, "knows(0, _, false)", (x, t) -> x.knows(0, t, false), Checks.outside(0, 1));
-            CHECKS.refusedEach(State::full, -1, "knows(0, _, true) of 6", (x, t) -> x.knows(0, t, true), Checks.outside(0, 5));
+            CHECKS.refusedEach(ChurchTest::small, -1, "knows(0, _, true)", (x, t) -> x.knows(0, t, true),
+                    Checks.outside(0, 1));
+            CHECKS.refusedEach(ChurchTest::small, -1, "knows(0, _, false)", (x, t) -> x.knows(0, t, false),
+                    Checks.outside(0, 1));
+            CHECKS.refusedEach(State::full, -1, "knows(0, _, true) of 6", (x, t) -> x.knows(0, t, true),
+                    Checks.outside(0, 5));
         });
         CHECKS.test(11, "-1 NOBODY: no such SHELF, VOICE, TUNE, KIND.", "both are missing, where nobody is", () ->
                 CHECKS.refused(WhichOneAllKnow::new, -1, "knows(0, 0, true)", x -> x.knows(0, 0, true)));
     }
 
     private static void move() {
-        CHECKS.test(12, "A VOICE goes to a free PLACE: where he was.", "to the first and the last PLACE, to one that was left", () -> {
+        CHECKS.test(12, "A VOICE goes to a free PLACE: where he was.",
+                "to the first and the last PLACE, to one that was left", () -> {
             WhichOneAllKnow x = small();
             CHECKS.due("move(0, 0)", x.move(0, 0), 3);
             CHECKS.due("voiceOf(0, 2)", x.voiceOf(0, 2), 0);
@@ -199,7 +206,8 @@ public final class ChurchTest {
             CHECKS.due("voiceOf(1, 2)", x.voiceOf(1, 2), 3);
             CHECKS.due("move(1, 0)", x.move(1, 0), 3);
         });
-        CHECKS.test(12, "A VOICE goes to a free PLACE: where he was.", "in a full CHURCH each of the twelve that are free", () -> {
+        CHECKS.test(12, "A VOICE goes to a free PLACE: where he was.",
+                "in a full CHURCH each of the twelve that are free", () -> {
             WhichOneAllKnow x = State.full();
             for (int v = 0; v < 12; v++) {
                 CHECKS.due("move(" + v + ", " + (2 * v + 1) + ")", x.move(v, 2 * v + 1), 2 * v);
@@ -219,7 +227,8 @@ public final class ChurchTest {
         });
         CHECKS.test(12, "the first that fits, in this order", "-1 ahead of -6", () ->
                 CHECKS.order(ChurchTest::small, 0, "move", (x, n) -> x.move(n[0], n[1]),
-                        new int[][] {{0, 0}, {2, -1}, {-1, -1}}, new int[][] {{0, 0}, {24, -6}, {-1, -6}, {23, -6}, {3, -6}}));
+                        new int[][] {{0, 0}, {2, -1}, {-1, -1}},
+                                new int[][] {{0, 0}, {24, -6}, {-1, -6}, {23, -6}, {3, -6}}));
     }
 
     private static void ask() {
@@ -236,7 +245,8 @@ public final class ChurchTest {
     }
 
     private static void voiceOf() {
-        CHECKS.test(14, "0 KIND, 1 a, 2 PLACE, 3 BOLD, 4 TOP, 5 KNOWS (bits)", "the least and the greatest of each", () -> {
+        CHECKS.test(14, "0 KIND, 1 a, 2 PLACE, 3 BOLD, 4 TOP, 5 KNOWS (bits)", "the least and the greatest of each",
+                () -> {
             WhichOneAllKnow x = State.full();
             x.voice(0, 0, 1, 0, 0);
             WhichOneAllKnow y = State.read("tune 0;tune 0;tune 0;tune 0;tune 0;tune 0;voice 6 9 23 5 11;voice 0 0 0 0 0;"
@@ -248,7 +258,8 @@ public final class ChurchTest {
             }
             CHECKS.due("voiceOf(11, 4) of twelve", x.voiceOf(11, 4), 11);
         });
-        CHECKS.test(14, "-5: no such one, another what.", "no such VOICE: just outside, and the farthest; of nobody", () -> {
+        CHECKS.test(14, "-5: no such one, another what.", "no such VOICE: just outside, and the farthest; of nobody",
+                () -> {
             CHECKS.refusedEach(ChurchTest::small, -5, "voiceOf(_, 0)", (x, v) -> x.voiceOf(v, 0), Checks.outside(0, 1));
             CHECKS.refusedEach(State::full, -5, "voiceOf(_, 5)", (x, v) -> x.voiceOf(v, 5), Checks.outside(0, 11));
             CHECKS.refused(WhichOneAllKnow::new, -5, "voiceOf(0, 0)", x -> x.voiceOf(0, 0));

@@ -48,7 +48,8 @@ public final class HeardTest {
             CHECKS.due("RIGHT and WRONG together",
                     fit(State.read("tune 0;voice 3 0 0 0 11;voice 2 0 23 0 11;voice 5 0 12 0 11"), 0, 2, 2), 1);
         });
-        CHECKS.test(29, "TUNES that FIT the first n elements (1 to 40)", "what stands behind them doesn't count", () -> {
+        CHECKS.test(29, "TUNES that FIT the first n elements (1 to 40)", "what stands behind them doesn't count",
+                () -> {
             WhichOneAllKnow x = heard();
             State.row(x, 0, 1, 2, 99);
             CHECKS.due("fits(0, 1, 0)", x.fits(0, 1, 0), 1);
@@ -130,7 +131,8 @@ public final class HeardTest {
 
     private static void fitsRefuses() {
         CHECKS.test(29, "-1; -2; -3; -4 n; -5 fewer elements; -6 n not 1 to 40, a PITCH.", "-1, no such SHELF", () ->
-                CHECKS.refusedEach(HeardTest::told, -1, "fits(_, 1, 0)", (x, s) -> x.fits(s, 1, 0), Checks.outside(0, 7)));
+                CHECKS.refusedEach(HeardTest::told, -1, "fits(_, 1, 0)", (x, s) -> x.fits(s, 1, 0),
+                        Checks.outside(0, 7)));
         CHECKS.test(29, "a SHELF that holds a VOICE where a ROW is wanted", "-2", () ->
                 CHECKS.refused(HeardTest::told, -2, "fits(2, 1, 0)", x -> x.fits(2, 1, 0)));
         CHECKS.test(29, "-3 NOTHING: a SHELF that holds NOTHING.", "-3", () ->
@@ -150,12 +152,14 @@ public final class HeardTest {
             CHECKS.refused(HeardTest::told, -6, "fits(4, 0, 0) of an empty ROW", x -> x.fits(4, 0, 0));
         });
         CHECKS.test(29, "-6 n not 1 to 40, a PITCH.", "PITCH just outside of 0 to 5", () ->
-                CHECKS.refusedEach(HeardTest::told, -6, "fits(0, 1, _)", (x, p) -> x.fits(0, 1, p), Checks.outside(0, 5)));
+                CHECKS.refusedEach(HeardTest::told, -6, "fits(0, 1, _)", (x, p) -> x.fits(0, 1, p),
+                        Checks.outside(0, 5)));
         CHECKS.test(29, IN_ORDER, "-1 to -6; fewer elements ahead of n above 40", () -> {
             int[][] pitches = {{0, 0}, {6, -6}, {-1, -6}};
             int[][] shelves = {{8, -1}, {-1, -1}, {2, -2}, {3, -3}};
             Checks.AllOpen call = (x, n) -> x.fits(n[0], n[1], n[2]);
-            CHECKS.order(HeardTest::told, 0, "fits", call, shelves, new int[][] {{1, 0}, {-1, -4}, {0, -6}, {41, -6}}, pitches);
+            CHECKS.order(HeardTest::told, 0, "fits", call, shelves, new int[][] {{1, 0}, {-1, -4}, {0, -6}, {41, -6}},
+                    pitches);
             CHECKS.order(HeardTest::told, 0, "fits", call, new int[][] {{1, 0}},
                     new int[][] {{3, 0}, {-1, -4}, {4, -5}, {41, -5}, {0, -6}}, pitches);
             CHECKS.order(HeardTest::told, 0, "fits", call, new int[][] {{5, 0}},
@@ -208,7 +212,8 @@ public final class HeardTest {
             CHECKS.due("fits(0, 2, 0)", x.fits(0, 2, 0), 1);
             CHECKS.due("changed(0, 2, 0, 0)", x.changed(0, 2, 0, 0), 1);
         });
-        CHECKS.test(30, "the first two by numbers (20 times the lesser and the other)", "0 with 3 is ahead of 1 with 2", () -> {
+        CHECKS.test(30, "the first two by numbers (20 times the lesser and the other)",
+                "0 with 3 is ahead of 1 with 2", () -> {
             WhichOneAllKnow x = State.read("tune 0;voice 0 0 0 0 0;voice 1 0 8 0 11;voice 0 0 9 3 11;voice 0 0 23 0 0;"
                     + "knows 1 0");
             State.row(x, 0, 1, 1, 1);
@@ -254,9 +259,12 @@ public final class HeardTest {
     }
 
     private static void changedRefuses() {
-        CHECKS.test(30, "-11 also TUNE; -12; -13; -14; -15; -16 (counted as -1 to -6).", "-11, no such SHELF, no such TUNE", () -> {
-            CHECKS.refusedEach(HeardTest::told, -11, "changed(_, 1, 0, 0)", (x, s) -> x.changed(s, 1, 0, 0), Checks.outside(0, 7));
-            CHECKS.refusedEach(HeardTest::told, -11, "changed(0, 1, _, 0)", (x, t) -> x.changed(0, 1, t, 0), Checks.outside(0, 2));
+        CHECKS.test(30, "-11 also TUNE; -12; -13; -14; -15; -16 (counted as -1 to -6).",
+                "-11, no such SHELF, no such TUNE", () -> {
+            CHECKS.refusedEach(HeardTest::told, -11, "changed(_, 1, 0, 0)", (x, s) -> x.changed(s, 1, 0, 0),
+                    Checks.outside(0, 7));
+            CHECKS.refusedEach(HeardTest::told, -11, "changed(0, 1, _, 0)", (x, t) -> x.changed(0, 1, t, 0),
+                    Checks.outside(0, 2));
             CHECKS.refused(WhichOneAllKnow::new, -11, "changed(0, 1, 0, 0)", x -> x.changed(0, 1, 0, 0));
         });
         CHECKS.test(30, "-12; -13; -14; -15; -16 (counted as -1 to -6).", "-12, a VOICE; -13, NOTHING", () -> {
@@ -264,16 +272,21 @@ public final class HeardTest {
             CHECKS.refused(HeardTest::told, -13, "changed(3, 1, 0, 0)", x -> x.changed(3, 1, 0, 0));
         });
         CHECKS.test(30, "-14; -15; -16 (counted as -1 to -6).", "-14, -1 and the least", () ->
-                CHECKS.refusedEach(HeardTest::told, -14, "changed(0, _, 0, 0)", (x, n) -> x.changed(0, n, 0, 0), -1, Integer.MIN_VALUE));
-        CHECKS.test(30, "-15; -16 (counted as -1 to -6).", "-15, one more than there are: of none, three, forty", () -> {
-            CHECKS.refusedEach(HeardTest::told, -15, "changed(4, _, 0, 0)", (x, n) -> x.changed(4, n, 0, 0), 1, Integer.MAX_VALUE);
+                CHECKS.refusedEach(HeardTest::told, -14, "changed(0, _, 0, 0)", (x, n) -> x.changed(0, n, 0, 0), -1,
+                        Integer.MIN_VALUE));
+        CHECKS.test(30, "-15; -16 (counted as -1 to -6).", "-15, one more than there are: of none, three, forty",
+                () -> {
+            CHECKS.refusedEach(HeardTest::told, -15, "changed(4, _, 0, 0)", (x, n) -> x.changed(4, n, 0, 0), 1,
+                    Integer.MAX_VALUE);
             CHECKS.refusedEach(HeardTest::told, -15, "changed(1, _, 0, 0)", (x, n) -> x.changed(1, n, 0, 0), 4);
             CHECKS.refusedEach(HeardTest::told, -15, "changed(5, _, 0, 0)", (x, n) -> x.changed(5, n, 0, 0), 41);
         });
-        CHECKS.test(30, "-16 (counted as -1 to -6).", "n 0 and 41, of as many elements; PITCH just outside of 0 to 5", () -> {
+        CHECKS.test(30, "-16 (counted as -1 to -6).", "n 0 and 41, of as many elements; PITCH just outside of 0 to 5",
+                () -> {
             CHECKS.refusedEach(HeardTest::told, -16, "changed(0, _, 0, 0)", (x, n) -> x.changed(0, n, 0, 0), 0, 41);
             CHECKS.refused(HeardTest::told, -16, "changed(4, 0, 0, 0) of an empty ROW", x -> x.changed(4, 0, 0, 0));
-            CHECKS.refusedEach(HeardTest::told, -16, "changed(0, 1, 0, _)", (x, p) -> x.changed(0, 1, 0, p), Checks.outside(0, 5));
+            CHECKS.refusedEach(HeardTest::told, -16, "changed(0, 1, 0, _)", (x, p) -> x.changed(0, 1, 0, p),
+                    Checks.outside(0, 5));
         });
         CHECKS.test(30, IN_ORDER, "-11 of SHELF or TUNE, then -12 to -16", () -> {
             int[][] tunes = {{0, 0}, {3, -1}, {-1, -1}};

@@ -35,7 +35,8 @@ public final class HymnTest {
     }
 
     private static void near() {
-        CHECKS.test(18, "NEAR a PLACE: the PLACES a ROW or a SEAT away, or both (8 at most)", "of each PLACE, each other", () -> {
+        CHECKS.test(18, "NEAR a PLACE: the PLACES a ROW or a SEAT away, or both (8 at most)",
+                "of each PLACE, each other", () -> {
             for (int p = 0; p < 24; p++) {
                 for (int q = 0; q < 24; q++) {
                     if (p != q) {
@@ -47,8 +48,10 @@ public final class HymnTest {
                 }
             }
         });
-        CHECKS.test(18, "NEAR a PLACE: the PLACES a ROW or a SEAT away, or both (8 at most)", "3 of a corner, 5 of a side, 8", () -> {
-            int[][] cases = {{0, 3}, {5, 3}, {18, 3}, {23, 3}, {2, 5}, {6, 5}, {11, 5}, {17, 5}, {20, 5}, {7, 8}, {16, 8}};
+        CHECKS.test(18, "NEAR a PLACE: the PLACES a ROW or a SEAT away, or both (8 at most)",
+                "3 of a corner, 5 of a side, 8", () -> {
+            int[][] cases = {{0, 3}, {5, 3}, {18, 3}, {23, 3}, {2, 5}, {6, 5}, {11, 5}, {17, 5}, {20, 5}, {7, 8},
+                    {16, 8}};
             for (int[] c : cases) {
                 int near = 0;
                 for (int q = 0; q < 24; q++) {
@@ -60,13 +63,15 @@ public final class HymnTest {
                 CHECKS.due("so many NEAR " + c[0], near, c[1]);
             }
         });
-        CHECKS.test(18, "NEAR a PLACE: the PLACES a ROW or a SEAT away, or both (8 at most)", "nobody is NEAR himself", () -> {
+        CHECKS.test(18, "NEAR a PLACE: the PLACES a ROW or a SEAT away, or both (8 at most)", "nobody is NEAR himself",
+                () -> {
             WhichOneAllKnow x = State.read("tune 0;voice 2 0 8 0 11");
             sung(x, 0, 3, 0, 0);
             // with a 1 he'd join in by himself, had he ever begun
             sung(State.read("tune 0;voice 2 1 8 0 11"), 0, 0, 0, 0, 0);
         });
-        CHECKS.test(18, "NEAR one who sings RIGHT (3; in reach or not)", "RIGHT himself or not, in reach or not; not NEAR one WRONG", () -> {
+        CHECKS.test(18, "NEAR one who sings RIGHT (3; in reach or not)",
+                "RIGHT himself or not, in reach or not; not NEAR one WRONG", () -> {
             WhichOneAllKnow x = State.read("tune 5;voice 1 0 0 0 11;voice 1 0 1 0 11;voice 0 0 6 0 0;voice 3 0 3 0 11;"
                     + "voice 0 0 4 0 11;voice 0 0 2 0 4;knows 0 0;knows 1 0");
             sung(x, 0, 0, 3, 3);
@@ -179,7 +184,8 @@ public final class HymnTest {
             sung(y, 0, 0, 0, 0, 0, 0, 0);
             sung(y, 0, 1, 1, 3, 3, 7, 7);
         });
-        CHECKS.test(18, "A DRAGGER joins in at VERSE 1 only if his NEED is 0", "eight LEADING around him, NEED 0, 1, 2", () -> {
+        CHECKS.test(18, "A DRAGGER joins in at VERSE 1 only if his NEED is 0",
+                "eight LEADING around him, NEED 0, 1, 2", () -> {
             for (int bold = 0; bold <= 2; bold++) {
                 WhichOneAllKnow x = State.read("tune 0;voice 6 0 7 " + bold + " 11;knows 0 0");
                 int[] around = {0, 1, 2, 6, 8, 12, 13, 14};
@@ -226,7 +232,8 @@ public final class HymnTest {
                     led(kind, false));
         }
         for (int kind : new int[] {4, 6}) {
-            CHECKS.test(18, "ASTRAY (DRAGGER): WRONG, if G is more than R, even if he KNOWS it.", "KIND " + kind + ", KNOWS it", () ->
+            CHECKS.test(18, "ASTRAY (DRAGGER): WRONG, if G is more than R, even if he KNOWS it.",
+                    "KIND " + kind + ", KNOWS it", () ->
                     led(kind, true));
             CHECKS.test(18, "others WRONG, if G is more than R, else RIGHT", "KIND " + kind + ", doesn't KNOW it", () ->
                     led(kind, false));
@@ -237,7 +244,8 @@ public final class HymnTest {
             WhichOneAllKnow y = State.read("tune 0;voice 0 0 1 3 11;voice 5 0 0 0 11;voice 5 0 2 0 11;voice 3 0 7 0 11");
             sung(y, 0, 1, 8, 9, 9);
         });
-        CHECKS.test(18, "ASTRAY (DRAGGER): WRONG, if G is more than R, even if he KNOWS it.", "at VERSE 0 nobody leads him", () -> {
+        CHECKS.test(18, "ASTRAY (DRAGGER): WRONG, if G is more than R, even if he KNOWS it.",
+                "at VERSE 0 nobody leads him", () -> {
             WhichOneAllKnow x = State.read("tune 0;voice 3 0 7 0 11;voice 4 0 0 2 11;voice 6 0 14 2 11;knows 1 0;knows 2 0");
             sung(x, 0, 0, 6, 0, 0);
             sung(x, 0, 1, 1, 7, 7);
@@ -287,7 +295,8 @@ public final class HymnTest {
     }
 
     private static void versesAndPitches() {
-        CHECKS.test(18, "VOICES (bits) at a VERSE (0 to 40)", "each from the first to the last, going round for ever", () -> {
+        CHECKS.test(18, "VOICES (bits) at a VERSE (0 to 40)", "each from the first to the last, going round for ever",
+                () -> {
             WhichOneAllKnow x = goingRound();
             for (int verse = 0; verse <= 40; verse++) {
                 CHECKS.due("RIGHT at " + verse, x.sung(0, 0, verse, 0), verse % 2 == 0 ? 2 : 4);
@@ -304,7 +313,8 @@ public final class HymnTest {
     }
 
     private static void emptyAndFull() {
-        CHECKS.test(18, "Who joins in sings RIGHT, if he KNOWS it.", "one TUNE behind another: each by who KNOWS it", () -> {
+        CHECKS.test(18, "Who joins in sings RIGHT, if he KNOWS it.", "one TUNE behind another: each by who KNOWS it",
+                () -> {
             WhichOneAllKnow x = State.read("tune 0;tune 6;voice 3 0 0 0 11;voice 6 0 1 2 9;knows 0 0;knows 1 0");
             for (int time = 0; time < 3; time++) {
                 CHECKS.due("sung(0, 0, 0, 0)", x.sung(0, 0, 0, 0), 3);
@@ -319,7 +329,8 @@ public final class HymnTest {
                 sung(State.read("tune 0"), 0, what, 0, 0);
             }
         });
-        CHECKS.test(18, "VOICES (bits) at a VERSE (0 to 40): RIGHT (what 0), WRONG (1), MIMING (2)", "all of twelve", () -> {
+        CHECKS.test(18, "VOICES (bits) at a VERSE (0 to 40): RIGHT (what 0), WRONG (1), MIMING (2)", "all of twelve",
+                () -> {
             int[] kinds = {2, 3, 5};
             for (int what = 0; what <= 2; what++) {
                 WhichOneAllKnow x = State.read("tune 0");
@@ -348,16 +359,20 @@ public final class HymnTest {
 
     private static void sungRefuses() {
         CHECKS.test(18, "-1 TUNE; -5 another what; -6.", "-1, no such TUNE", () -> {
-            CHECKS.refusedEach(HymnTest::two, -1, "sung(_, 0, 0, 0)", (x, t) -> x.sung(t, 0, 0, 0), Checks.outside(0, 1));
+            CHECKS.refusedEach(HymnTest::two, -1, "sung(_, 0, 0, 0)", (x, t) -> x.sung(t, 0, 0, 0),
+                    Checks.outside(0, 1));
             CHECKS.refused(WhichOneAllKnow::new, -1, "sung(0, 0, 0, 0)", x -> x.sung(0, 0, 0, 0));
             CHECKS.refused(State::full, -1, "sung(6, 0, 0, 0)", x -> x.sung(6, 0, 0, 0));
         });
         CHECKS.test(18, "-5 another what", "just outside of 0 to 3, and the farthest", () ->
-                CHECKS.refusedEach(HymnTest::two, -5, "sung(0, 0, 0, _)", (x, w) -> x.sung(0, 0, 0, w), Checks.outside(0, 3)));
+                CHECKS.refusedEach(HymnTest::two, -5, "sung(0, 0, 0, _)", (x, w) -> x.sung(0, 0, 0, w),
+                        Checks.outside(0, 3)));
         CHECKS.test(18, "a number that may not be (a PITCH, a VERSE", "-6, PITCH just outside of 0 to 5", () ->
-                CHECKS.refusedEach(HymnTest::two, -6, "sung(0, _, 0, 0)", (x, p) -> x.sung(0, p, 0, 0), Checks.outside(0, 5)));
+                CHECKS.refusedEach(HymnTest::two, -6, "sung(0, _, 0, 0)", (x, p) -> x.sung(0, p, 0, 0),
+                        Checks.outside(0, 5)));
         CHECKS.test(18, "VOICES (bits) at a VERSE (0 to 40)", "-6, VERSE just outside of 0 to 40", () ->
-                CHECKS.refusedEach(HymnTest::two, -6, "sung(0, 0, _, 0)", (x, v) -> x.sung(0, 0, v, 0), Checks.outside(0, 40)));
+                CHECKS.refusedEach(HymnTest::two, -6, "sung(0, 0, _, 0)", (x, v) -> x.sung(0, 0, v, 0),
+                        Checks.outside(0, 40)));
         CHECKS.test(18, "the first that fits, in this order", "-1, -5, -6", () ->
                 CHECKS.order(HymnTest::two, 0, "sung", (x, n) -> x.sung(n[0], n[1], n[2], n[3]),
                         new int[][] {{0, 0}, {2, -1}, {-1, -1}}, new int[][] {{0, 0}, {6, -6}, {-1, -6}},
@@ -465,21 +480,24 @@ public final class HymnTest {
         CHECKS.test(20, CATCHES, "WRONG and MIMES don't count as RIGHT, but as VOICES", () -> {
             CHECKS.due("BOOMER", State.read("tune 0;voice 3 0 0 0 11").verse(0, 0, 0), NONE);
             CHECKS.due("MIME", State.read("tune 0;voice 5 0 0 0 11").verse(0, 0, 0), NONE);
-            CHECKS.due("one of three", State.read("tune 0;voice 2 0 0 0 11;voice 3 0 23 0 11;voice 5 0 5 0 11").verse(0, 0, 0), NONE);
+            CHECKS.due("one of three",
+                    State.read("tune 0;voice 2 0 0 0 11;voice 3 0 23 0 11;voice 5 0 5 0 11").verse(0, 0, 0), NONE);
         });
         CHECKS.test(20, "It CATCHES at the first VERSE (0 to 40)", "the first, though they are fewer later on", () -> {
             WhichOneAllKnow x = State.read("tune 0;voice 3 0 0 0 11;voice 4 0 1 2 11;knows 1 0");
             sung(x, 0, 0, 2, 0, 0);
             CHECKS.due("verse(0, 0, 0)", x.verse(0, 0, 0), 0);
         });
-        CHECKS.test(20, "It CATCHES at the first VERSE (0 to 40)", "late, after long being fewer; never, going round", () -> {
+        CHECKS.test(20, "It CATCHES at the first VERSE (0 to 40)", "late, after long being fewer; never, going round",
+                () -> {
             WhichOneAllKnow x = longest();
             CHECKS.due("verse(0, 0, 0)", x.verse(0, 0, 0), 28);
             CHECKS.due("RIGHT at 27", Integer.bitCount(x.sung(0, 0, 27, 0)), 5);
             CHECKS.due("RIGHT at 28", Integer.bitCount(x.sung(0, 0, 28, 0)), 6);
             CHECKS.due("going round", goingRound().verse(0, 0, 0), NONE);
         });
-        CHECKS.test(20, "The VERSE at which it CATCHES (what 0; NONE), SETTLES (1; NONE).", "at the PITCHES 0 to 5", () -> {
+        CHECKS.test(20, "The VERSE at which it CATCHES (what 0; NONE), SETTLES (1; NONE).", "at the PITCHES 0 to 5",
+                () -> {
             WhichOneAllKnow x = State.read("tune 7;voice 2 0 0 0 9");
             for (int pitch = 0; pitch <= 5; pitch++) {
                 CHECKS.due("verse(0, " + pitch + ", 0)", x.verse(0, pitch, 0), pitch <= 2 ? 0 : NONE);
@@ -498,7 +516,8 @@ public final class HymnTest {
             CHECKS.due("of a row", joiningOneByOne(0).verse(0, 0, 1), 3);
             CHECKS.due("of a row and others", joiningOneByOne(8).verse(0, 0, 1), 3);
         });
-        CHECKS.test(20, "(that one, and the next three); else it doesn't.", "two alike that don't stay so are not enough", () -> {
+        CHECKS.test(20, "(that one, and the next three); else it doesn't.",
+                "two alike that don't stay so are not enough", () -> {
             // a DRAGGER makes VERSES 0 and 1 the same, but not the ones behind
             WhichOneAllKnow x = State.read("tune 0;voice 1 0 0 0 11;voice 6 0 1 1 11;knows 0 0;knows 1 0");
             sung(x, 0, 0, 1, 1, 3, 3, 3, 3);
@@ -536,7 +555,8 @@ public final class HymnTest {
             CHECKS.refused(WhichOneAllKnow::new, -11, "verse(0, 0, 1)", x -> x.verse(0, 0, 1));
         });
         CHECKS.test(20, "-15 another what", "just outside of 0 and 1, and the farthest", () ->
-                CHECKS.refusedEach(HymnTest::two, -15, "verse(0, 0, _)", (x, w) -> x.verse(0, 0, w), Checks.outside(0, 1)));
+                CHECKS.refusedEach(HymnTest::two, -15, "verse(0, 0, _)", (x, w) -> x.verse(0, 0, w),
+                        Checks.outside(0, 1)));
         CHECKS.test(20, "-16 (counted as -1, -5, -6).", "PITCH just outside of 0 to 5, of each what", () -> {
             CHECKS.refusedEach(HymnTest::two, -16, "verse(0, _, 0)", (x, p) -> x.verse(0, p, 0), Checks.outside(0, 5));
             CHECKS.refusedEach(HymnTest::two, -16, "verse(0, _, 1)", (x, p) -> x.verse(0, p, 1), Checks.outside(0, 5));

@@ -10,6 +10,7 @@ public final class MovesTest {
 
     public static void main(String[] args) {
         act();
+        bodies();
         actOfNone();
         trace();
         image();
@@ -78,14 +79,16 @@ public final class MovesTest {
             };
             for (int kind = 0; kind <= 6; kind++) {
                 for (int move = 0; move <= 2; move++) {
-                    CHECKS.due("act(5, " + move + ", 10) of KIND " + kind, sixth(kind).act(5, move, 10), due[kind][move]);
+                    CHECKS.due("act(5, " + move + ", 10) of KIND " + kind, sixth(kind).act(5, move, 10),
+                            due[kind][move]);
                 }
             }
         });
         for (int kind = 0; kind <= 6; kind++) {
             int of = kind;
             CHECKS.test(38, WRAPS, "KIND " + kind + ", x at the ends of int and halfway", () -> {
-                int[] ends = {MAX, MAX - 1, MIN, MIN + 1, MAX / 2, MAX / 2 + 1, MIN / 2, MIN / 2 - 1, MAX / 3, MAX / 3 + 1,
+                int[] ends = {MAX, MAX - 1, MIN, MIN + 1, MAX / 2, MAX / 2 + 1, MIN / 2, MIN / 2 - 1, MAX / 3,
+                        MAX / 3 + 1,
                     MAX / 6, MIN / 6, 0, -1, 1};
                 for (int x : ends) {
                     CHECKS.due("act(5, 0, " + x + ")", sixth(of).act(5, 0, x), breathes(of, 5, 3, x));
@@ -115,6 +118,55 @@ public final class MovesTest {
         });
     }
 
+    /** Each body by a VOICE of the KIND that has it, whose number is 5 and whose a is 3. */
+    private static void bodies() {
+        String[] sentences = {
+            "VOICE: 10 breathes: x + m.", "11 sings: breathes(x) * 2.", "12 sits: sings(x) ^ breathes(x - k).",
+            "LEADING: 20 breathes: super.breathes(x) + k.", "JOINING: 30 sings: super.sings(x) * 3.",
+            "BOOMER: 40 sings: super.sings(x + 1).", "ASTRAY: 50 sits: -super.sits(x).",
+            "51 breathes: super.breathes(x) - m.", "MIME: 60 sits: super.sits(x) ^ 5.",
+            "DRAGGER: 70 breathes: super.breathes(x) * 2.", "71 sings: super.sings(x - k).",
+        };
+        int[][] due = {
+            // KIND, MOVE, number, x, answer
+            {0, 0, 10, MAX, MIN + 4}, {0, 1, 11, MAX - 5, -2}, {0, 2, 12, MIN, 10 ^ (MAX + 3)},
+            {1, 0, 20, MAX - 7, MIN}, {2, 1, 30, 357913942 - 5, -2147483644},
+            {3, 1, 40, MAX, 2 * (MIN + 5 + 3)}, {4, 2, 50, 0, 3},
+            {4, 0, 51, MAX, MAX}, {5, 2, 60, MIN, 30 ^ (MAX + 3) ^ 5},
+            {6, 0, 70, MIN, 0}, {6, 1, 71, MIN + 2, 4 * MAX},
+        };
+        for (int i = 0; i < due.length; i++) {
+            int[] d = due[i];
+            CHECKS.test(38, sentences[i], "act(5, " + d[1] + ", " + d[3] + "), wrapping", () -> {
+                WhichOneAllKnow x = sixth(d[0]);
+                CHECKS.due("act(5, " + d[1] + ", " + d[3] + ")", x.act(5, d[1], d[3]), d[4]);
+                CHECKS.due("trace(0)", x.trace(0), d[2]);
+            });
+        }
+        CHECKS.test(38, "super: from the KIND above the body's on", "not from the VOICE's own on", () -> {
+            // a DRAGGER sits by ASTRAY's body; what that calls above is VOICE's, which calls the DRAGGER's own again
+            WhichOneAllKnow x = sixth(6);
+            x.act(5, 2, 10);
+            traced(x, 50, 12, 71, 11, 70, 51, 10, 70, 51, 10);
+            // a BOOMER breathes by LEADING's body
+            WhichOneAllKnow y = sixth(3);
+            y.act(5, 1, 10);
+            traced(y, 40, 11, 20, 10);
+        });
+        CHECKS.test(39, "the first 20 are kept", "no MOVE runs more than ten, and all of them are kept", () -> {
+            for (int kind = 0; kind <= 6; kind++) {
+                for (int move = 0; move <= 2; move++) {
+                    WhichOneAllKnow x = sixth(kind);
+                    x.act(5, move, 1);
+                    int ran = x.status(7);
+                    CHECKS.due("trace(" + (ran - 1) + ") is there", x.trace(ran - 1) >= 10 ? 1 : 0, 1);
+                    CHECKS.due("trace(" + ran + ")", x.trace(ran), NONE);
+                    CHECKS.due("more than ten", ran > 10 ? 1 : 0, 0);
+                }
+            }
+        });
+    }
+
     private static void traced(WhichOneAllKnow x, int... due) {
         for (int i = 0; i < due.length; i++) {
             CHECKS.due("trace(" + i + ")", x.trace(i), due[i]);
@@ -133,7 +185,8 @@ public final class MovesTest {
     }
 
     private static void actOfNone() {
-        CHECKS.test(38, "0, and no TRACE then: no such VOICE, move.", "no such VOICE: just outside, and the farthest, of nobody", () -> {
+        CHECKS.test(38, "0, and no TRACE then: no such VOICE, move.",
+                "no such VOICE: just outside, and the farthest, of nobody", () -> {
             for (int v : Checks.outside(0, 5)) {
                 none(sixth(6), v, 0);
             }
@@ -142,7 +195,8 @@ public final class MovesTest {
             }
             none(new WhichOneAllKnow(), 0, 0);
         });
-        CHECKS.test(38, "0, and no TRACE then: no such VOICE, move.", "no such MOVE: just outside of 0 to 2, and the farthest", () -> {
+        CHECKS.test(38, "0, and no TRACE then: no such VOICE, move.",
+                "no such MOVE: just outside of 0 to 2, and the farthest", () -> {
             for (int move : Checks.outside(0, 2)) {
                 none(sixth(6), 5, move);
                 none(sixth(0), 0, move);
@@ -162,7 +216,8 @@ public final class MovesTest {
     }
 
     private static void trace() {
-        CHECKS.test(39, "the numbers of the bodies that ran in the latest act(), in the order in which they began", "each KIND and MOVE", () -> {
+        CHECKS.test(39, "the numbers of the bodies that ran in the latest act(), in the order in which they began",
+                "each KIND and MOVE", () -> {
             int[][][] due = {
                 {{10}, {11, 10}, {12, 11, 10, 10}},
                 {{20, 10}, {11, 20, 10}, {12, 11, 20, 10, 20, 10}},
@@ -184,7 +239,8 @@ public final class MovesTest {
                 traced(x, due[kind][0]);
             }
         });
-        CHECKS.test(39, "THE TRACE's i-th body. NONE: none such.", "just outside, and the farthest; nothing is refused", () -> {
+        CHECKS.test(39, "THE TRACE's i-th body. NONE: none such.",
+                "just outside, and the farthest; nothing is refused", () -> {
             WhichOneAllKnow x = sixth(6);
             CHECKS.due("trace(0) ahead of any", x.trace(0), NONE);
             x.act(5, 2, 10);
@@ -274,7 +330,8 @@ public final class MovesTest {
     }
 
     private static void restore() {
-        CHECKS.test(41, "All is as THE IMAGE has it", "VOICES, TUNES, WAIT, HYMNS, SEED; twice by the same IMAGE", () -> {
+        CHECKS.test(41, "All is as THE IMAGE has it", "VOICES, TUNES, WAIT, HYMNS, SEED; twice by the same IMAGE",
+                () -> {
             WhichOneAllKnow x = singing();
             x.image();
             String before = State.of(x);
@@ -309,7 +366,8 @@ public final class MovesTest {
     }
 
     private static void restoreShelves() {
-        CHECKS.test(41, "SHELVES with VOICES hold those of these numbers, or NOTHING", "one who was there, one told later", () -> {
+        CHECKS.test(41, "SHELVES with VOICES hold those of these numbers, or NOTHING",
+                "one who was there, one told later", () -> {
             WhichOneAllKnow x = singing();
             x.image();
             x.voice(0, 0, 0, 0, 0);
@@ -335,7 +393,8 @@ public final class MovesTest {
             x.restore();
             CHECKS.due("says(0, 0)", x.says(0, 0), 9);
         });
-        CHECKS.test(41, "SHELVES with VOICES hold those of these numbers, or NOTHING", "of nobody: all NOTHING; of twelve: all stay", () -> {
+        CHECKS.test(41, "SHELVES with VOICES hold those of these numbers, or NOTHING",
+                "of nobody: all NOTHING; of twelve: all stay", () -> {
             WhichOneAllKnow x = new WhichOneAllKnow();
             x.image();
             x.voice(0, 0, 0, 0, 0);
@@ -348,7 +407,8 @@ public final class MovesTest {
             y.restore();
             CHECKS.due("holds(3)", y.holds(3), 11);
         });
-        CHECKS.test(40, "THE IMAGE of all but SHELVES", "a SHELF shown since stays so, a VOICE that left it doesn't come back", () -> {
+        CHECKS.test(40, "THE IMAGE of all but SHELVES",
+                "a SHELF shown since stays so, a VOICE that left it doesn't come back", () -> {
             WhichOneAllKnow x = singing();
             x.show(0, 1);
             x.show(1, 1);
@@ -406,7 +466,8 @@ public final class MovesTest {
                 x.voice(0, 0, v, 0, 0);
             }
         });
-        CHECKS.test(42, "0 VOICES, 1 TUNES, 2 HYMNS, 3 WAIT, 4 KNOWN by all together, 5 free PLACES, 6 SEED", "each, then the most", () -> {
+        CHECKS.test(42, "0 VOICES, 1 TUNES, 2 HYMNS, 3 WAIT, 4 KNOWN by all together, 5 free PLACES, 6 SEED",
+                "each, then the most", () -> {
             WhichOneAllKnow x = singing();
             x.knows(1, 0, true);
             x.act(1, 2, 1);
@@ -430,7 +491,8 @@ public final class MovesTest {
                 CHECKS.due("status(" + what + ") of a full CHURCH", y.status(what), most[what]);
             }
         });
-        CHECKS.test(42, "7 bodies that ran in the latest act() (all, kept or not)", "none, one, ten, none again", () -> {
+        CHECKS.test(42, "7 bodies that ran in the latest act() (all, kept or not)", "none, one, ten, none again",
+                () -> {
             WhichOneAllKnow x = sixth(6);
             CHECKS.due("status(7)", x.status(7), 0);
             x.act(0, 0, 1);
@@ -505,7 +567,8 @@ public final class MovesTest {
             CHECKS.due("status(16)", x.status(16), 500);
             CHECKS.due("status(3)", x.status(3), 2);
         });
-        CHECKS.test(42, "nothing changes but how many there were", "answers of NONE, 0 or less that are no refusals don't count", () -> {
+        CHECKS.test(42, "nothing changes but how many there were",
+                "answers of NONE, 0 or less that are no refusals don't count", () -> {
             WhichOneAllKnow x = State.read("tune 0;voice 3 0 0 0 11;voice 4 0 1 2 11;knows 1 0");
             x.row(0, 3, 1);
             x.two(0);

@@ -100,9 +100,11 @@ public final class OutcomesTest {
             CHECKS.refused(() -> State.read("voice 0 0 0 0 0"), -5, "best(0, 0)", x -> x.best(0, 0));
         });
         CHECKS.test(21, A_VERSE, "-6, PITCH just outside of 0 to 5", () ->
-                CHECKS.refusedEach(OutcomesTest::fewKnow, -6, "best(_, 0)", (x, p) -> x.best(p, 0), Checks.outside(0, 5)));
+                CHECKS.refusedEach(OutcomesTest::fewKnow, -6, "best(_, 0)", (x, p) -> x.best(p, 0),
+                        Checks.outside(0, 5)));
         CHECKS.test(21, A_VERSE, "-6, VERSE just outside of 0 to 40", () ->
-                CHECKS.refusedEach(OutcomesTest::fewKnow, -6, "best(0, _)", (x, v) -> x.best(0, v), Checks.outside(0, 40)));
+                CHECKS.refusedEach(OutcomesTest::fewKnow, -6, "best(0, _)", (x, v) -> x.best(0, v),
+                        Checks.outside(0, 40)));
         CHECKS.test(21, IN_ORDER, "-5 ahead of -6", () -> {
             CHECKS.refusedEach(WhichOneAllKnow::new, -5, "best(_, 0)", (x, p) -> x.best(p, 0), Checks.outside(0, 5));
             CHECKS.refusedEach(WhichOneAllKnow::new, -5, "best(0, _)", (x, v) -> x.best(0, v), Checks.outside(0, 40));
@@ -149,19 +151,22 @@ public final class OutcomesTest {
             CHECKS.refused(WhichOneAllKnow::new, -1, "pitch(0, 0)", x -> x.pitch(0, 0));
         });
         CHECKS.test(22, A_VERSE, "-6, VERSE just outside of 0 to 40", () ->
-                CHECKS.refusedEach(OutcomesTest::fewKnow, -6, "pitch(0, _)", (x, v) -> x.pitch(0, v), Checks.outside(0, 40)));
+                CHECKS.refusedEach(OutcomesTest::fewKnow, -6, "pitch(0, _)", (x, v) -> x.pitch(0, v),
+                        Checks.outside(0, 40)));
         CHECKS.test(22, IN_ORDER, "-1 ahead of -6", () ->
                 CHECKS.order(OutcomesTest::fewKnow, 0, "pitch", (x, n) -> x.pitch(n[0], n[1]),
                         new int[][] {{0, 0}, {3, -1}, {-1, -1}}, new int[][] {{0, 0}, {41, -6}, {-1, -6}}));
     }
 
     private static void two() {
-        CHECKS.test(23, "of several the first (10 times the lesser and the other); NONE: fewer than two.", "none, one, two TUNES", () -> {
+        CHECKS.test(23, "of several the first (10 times the lesser and the other); NONE: fewer than two.",
+                "none, one, two TUNES", () -> {
             CHECKS.due("of no TUNES", new WhichOneAllKnow().two(0), NONE);
             CHECKS.due("of one", State.read("tune 0;voice 1 0 0 0 11;knows 0 0").two(40), NONE);
             CHECKS.due("of two, nobody is there", State.read("tune 0;tune 0").two(0), 1);
         });
-        CHECKS.test(23, "the pair by which most sing RIGHT in one of the two at least, of several the first", "pairs in their order", () -> {
+        CHECKS.test(23, "the pair by which most sing RIGHT in one of the two at least, of several the first",
+                "pairs in their order", () -> {
             CHECKS.due("none sings", apart(11, "").two(0), 1);
             CHECKS.due("all alike", apart(11, ";knows 0 0;knows 1 1;knows 2 2").two(0), 1);
             CHECKS.due("0 and 2", apart(11, ";knows 0 0;knows 1 1;knows 2 2;knows 3 2").two(7), 2);
@@ -201,7 +206,8 @@ public final class OutcomesTest {
                 CHECKS.due("two(" + verse + ")", y.two(verse), verse % 2 == 0 ? 12 : 1);
             }
         });
-        CHECKS.test(23, "TWO; NONE. -16 (counted as -6).", "VERSE just outside of 0 to 40, with TUNES or without", () -> {
+        CHECKS.test(23, "TWO; NONE. -16 (counted as -6).", "VERSE just outside of 0 to 40, with TUNES or without",
+                () -> {
             CHECKS.refusedEach(OutcomesTest::fewKnow, -16, "two(_)", (x, v) -> x.two(v), Checks.outside(0, 40));
             CHECKS.refusedEach(WhichOneAllKnow::new, -16, "two(_)", (x, v) -> x.two(v), Checks.outside(0, 40));
         });
@@ -223,7 +229,8 @@ public final class OutcomesTest {
     }
 
     private static void leaders() {
-        CHECKS.test(24, "LEADERS: how many sing RIGHT (i NONE), the i-th PLACE.", "one, two, the first and the last of them", () -> {
+        CHECKS.test(24, "LEADERS: how many sing RIGHT (i NONE), the i-th PLACE.",
+                "one, two, the first and the last of them", () -> {
             led(corners(), 1, 1, 1, 1);
             led(corners(), 1, 2, 2, 1, 16);
         });
@@ -305,7 +312,8 @@ public final class OutcomesTest {
             led(x, 3, 1, 0, 2);
             led(x, 3, 2, 0, 2, 4);
         });
-        CHECKS.test(24, "the PLACES by which most sing RIGHT (leaders not counted) at v", "not at another VERSE, to 40", () -> {
+        CHECKS.test(24, "the PLACES by which most sing RIGHT (leaders not counted) at v",
+                "not at another VERSE, to 40", () -> {
             // JOINING in a ROW of PLACES: the last hears him later
             WhichOneAllKnow x = State.read("tune 0;voice 2 1 1 0 11;voice 2 1 2 0 11;voice 2 1 3 0 11;voice 2 1 4 0 11");
             int[][] due = {{0, 0}, {3, 8}, {4, 8}, {4, 7}, {4, 0}, {4, 0}};
@@ -330,15 +338,20 @@ public final class OutcomesTest {
                     Checks.outside(-1, 1));
         });
         CHECKS.test(24, "-6 k not 1 or 2", "just outside, and the farthest, with an i that may be", () -> {
-            CHECKS.refusedEach(OutcomesTest::corners, -6, "leaders(0, 0, 0, _, NONE)", (x, k) -> x.leaders(0, 0, 0, k, NONE),
+            CHECKS.refusedEach(OutcomesTest::corners, -6, "leaders(0, 0, 0, _, NONE)",
+                    (x, k) -> x.leaders(0, 0, 0, k, NONE),
                     Checks.outside(1, 2));
             CHECKS.refusedEach(OutcomesTest::corners, -6, "leaders(0, 0, 0, _, 0)", (x, k) -> x.leaders(0, 0, 0, k, 0),
                     Checks.outside(1, 2));
         });
-        CHECKS.test(24, "is looked at only if that other one may be; else it is -6.", "k that may not be, i that is none", () -> {
-            CHECKS.refusedEach(OutcomesTest::corners, -6, "leaders(0, 0, 0, 3, _)", (x, i) -> x.leaders(0, 0, 0, 3, i), 2, 3, -2);
-            CHECKS.refusedEach(OutcomesTest::corners, -6, "leaders(0, 0, 0, 0, _)", (x, i) -> x.leaders(0, 0, 0, 0, i), 0, 5, -2);
-            CHECKS.refusedEach(OutcomesTest::corners, -6, "leaders(0, 6, 41, _, 9)", (x, k) -> x.leaders(0, 6, 41, k, 9),
+        CHECKS.test(24, "is looked at only if that other one may be; else it is -6.",
+                "k that may not be, i that is none", () -> {
+            CHECKS.refusedEach(OutcomesTest::corners, -6, "leaders(0, 0, 0, 3, _)", (x, i) -> x.leaders(0, 0, 0, 3, i),
+                    2, 3, -2);
+            CHECKS.refusedEach(OutcomesTest::corners, -6, "leaders(0, 0, 0, 0, _)", (x, i) -> x.leaders(0, 0, 0, 0, i),
+                    0, 5, -2);
+            CHECKS.refusedEach(OutcomesTest::corners, -6, "leaders(0, 6, 41, _, 9)",
+                    (x, k) -> x.leaders(0, 6, 41, k, 9),
                     Checks.outside(1, 2));
         });
         CHECKS.test(24, "-6 k not 1 or 2, a PITCH, a VERSE.", "PITCH just outside of 0 to 5, VERSE of 0 to 40", () -> {
@@ -408,8 +421,10 @@ public final class OutcomesTest {
             x.knows(9, 0, true);
             CHECKS.due("taught(0, 1)", x.taught(0, 1), 0b110000000000);
         });
-        CHECKS.test(25, "who must learn a TUNE so that it CATCHES at a PITCH", "who learns it brings others along", () ->
-                CHECKS.due("a LEADING", State.read("tune 0;voice 0 0 0 0 11;voice 1 0 1 0 11;voice 2 1 2 0 11;voice 0 0 23 0 0")
+        CHECKS.test(25, "who must learn a TUNE so that it CATCHES at a PITCH", "who learns it brings others along",
+                () ->
+                CHECKS.due("a LEADING",
+                        State.read("tune 0;voice 0 0 0 0 11;voice 1 0 1 0 11;voice 2 1 2 0 11;voice 0 0 23 0 0")
                         .taught(0, 0), 2));
         CHECKS.test(25, "who must learn a TUNE so that it CATCHES at a PITCH", "at any VERSE, the first, too", () -> {
             // with the ASTRAY taught it CATCHES at VERSE 0 alone
@@ -423,11 +438,13 @@ public final class OutcomesTest {
 
     private static void taughtRefuses() {
         CHECKS.test(25, "TAUGHT; NONE. -11; -16 (counted as -1, -6).", "-11, no such TUNE", () -> {
-            CHECKS.refusedEach(OutcomesTest::corners, -11, "taught(_, 0)", (x, t) -> x.taught(t, 0), Checks.outside(0, 0));
+            CHECKS.refusedEach(OutcomesTest::corners, -11, "taught(_, 0)", (x, t) -> x.taught(t, 0),
+                    Checks.outside(0, 0));
             CHECKS.refused(WhichOneAllKnow::new, -11, "taught(0, 0)", x -> x.taught(0, 0));
         });
         CHECKS.test(25, "-16 (counted as -1, -6).", "PITCH just outside of 0 to 5", () ->
-                CHECKS.refusedEach(OutcomesTest::corners, -16, "taught(0, _)", (x, p) -> x.taught(0, p), Checks.outside(0, 5)));
+                CHECKS.refusedEach(OutcomesTest::corners, -16, "taught(0, _)", (x, p) -> x.taught(0, p),
+                        Checks.outside(0, 5)));
         CHECKS.test(25, IN_ORDER, "-11 ahead of -16", () ->
                 CHECKS.order(OutcomesTest::corners, 10, "taught", (x, n) -> x.taught(n[0], n[1]),
                         new int[][] {{0, 0}, {1, -1}, {-1, -1}}, new int[][] {{0, 0}, {6, -6}, {-1, -6}}));
@@ -436,7 +453,8 @@ public final class OutcomesTest {
     private static void helps() {
         // a BOOMER leads the ASTRAY at PLACE 1 astray; the LEADING at 22 brings in the VOICE at 23
         String church = "tune 0;voice 3 0 0 0 11;voice 4 0 1 2 11;voice 1 0 22 0 11;voice 0 0 23 3 11;knows 1 0;knows 2 0";
-        CHECKS.test(26, "less how many without (as if he weren't there)", "fewer by him, below 0, and nothing is refused", () -> {
+        CHECKS.test(26, "less how many without (as if he weren't there)",
+                "fewer by him, below 0, and nothing is refused", () -> {
             WhichOneAllKnow x = State.read(church);
             CHECKS.due("BOOMER at 0", x.helps(0, 0, 0, 0), 0);
             CHECKS.due("BOOMER at 1", x.helps(0, 0, 0, 1), -1);
@@ -468,7 +486,8 @@ public final class OutcomesTest {
             CHECKS.due("MIME", x.helps(0, 0, 0, 1), 1);
             CHECKS.due("out of reach", x.helps(2, 0, 0, 9), 0);
         });
-        CHECKS.test(26, "HELPS, one VOICE, a TUNE, PITCH, VERSE", "the twelfth VOICE brings in all others, the sixth TUNE", () -> {
+        CHECKS.test(26, "HELPS, one VOICE, a TUNE, PITCH, VERSE",
+                "the twelfth VOICE brings in all others, the sixth TUNE", () -> {
             WhichOneAllKnow x = State.read("tune 0;tune 0;tune 0;tune 0;tune 0;tune 0");
             for (int v = 0; v < 12; v++) {
                 x.voice(v == 11 ? 1 : 2, 1, v, 0, 11);
@@ -481,15 +500,20 @@ public final class OutcomesTest {
     }
 
     private static void helpsRefuses() {
-        CHECKS.test(26, "-101 VOICE, TUNE; -106 (counted as -1, -6).", "-101, no such VOICE, no such TUNE, neither", () -> {
-            CHECKS.refusedEach(OutcomesTest::corners, -101, "helps(_, 0, 0, 0)", (x, v) -> x.helps(v, 0, 0, 0), Checks.outside(0, 1));
-            CHECKS.refusedEach(OutcomesTest::corners, -101, "helps(0, _, 0, 0)", (x, t) -> x.helps(0, t, 0, 0), Checks.outside(0, 0));
+        CHECKS.test(26, "-101 VOICE, TUNE; -106 (counted as -1, -6).", "-101, no such VOICE, no such TUNE, neither",
+                () -> {
+            CHECKS.refusedEach(OutcomesTest::corners, -101, "helps(_, 0, 0, 0)", (x, v) -> x.helps(v, 0, 0, 0),
+                    Checks.outside(0, 1));
+            CHECKS.refusedEach(OutcomesTest::corners, -101, "helps(0, _, 0, 0)", (x, t) -> x.helps(0, t, 0, 0),
+                    Checks.outside(0, 0));
             CHECKS.refused(WhichOneAllKnow::new, -101, "helps(0, 0, 0, 0)", x -> x.helps(0, 0, 0, 0));
             CHECKS.refused(() -> State.read("tune 0"), -101, "helps(0, 0, 0, 0) of nobody", x -> x.helps(0, 0, 0, 0));
         });
         CHECKS.test(26, "-106 (counted as -1, -6).", "PITCH just outside of 0 to 5, VERSE of 0 to 40", () -> {
-            CHECKS.refusedEach(OutcomesTest::corners, -106, "helps(0, 0, _, 0)", (x, p) -> x.helps(0, 0, p, 0), Checks.outside(0, 5));
-            CHECKS.refusedEach(OutcomesTest::corners, -106, "helps(0, 0, 0, _)", (x, v) -> x.helps(0, 0, 0, v), Checks.outside(0, 40));
+            CHECKS.refusedEach(OutcomesTest::corners, -106, "helps(0, 0, _, 0)", (x, p) -> x.helps(0, 0, p, 0),
+                    Checks.outside(0, 5));
+            CHECKS.refusedEach(OutcomesTest::corners, -106, "helps(0, 0, 0, _)", (x, v) -> x.helps(0, 0, 0, v),
+                    Checks.outside(0, 40));
         });
         CHECKS.test(26, IN_ORDER, "-101 ahead of -106", () ->
                 CHECKS.order(OutcomesTest::corners, 100, "helps", (x, n) -> x.helps(n[0], n[1], n[2], n[3]),
@@ -512,7 +536,8 @@ public final class OutcomesTest {
             }
             CHECKS.due("late(99, NONE) at first", new WhichOneAllKnow().late(99, NONE), 198);
         });
-        CHECKS.test(27, "as if LATE became WAIT more and n less with each, 0 at least", "n below, at and above WAIT", () -> {
+        CHECKS.test(27, "as if LATE became WAIT more and n less with each, 0 at least", "n below, at and above WAIT",
+                () -> {
             for (int wait = 0; wait <= 9; wait++) {
                 for (int n = 0; n <= 9; n++) {
                     for (int t : new int[] {0, 1, 2, 99}) {
@@ -527,35 +552,57 @@ public final class OutcomesTest {
         });
         CHECKS.test(27, "LATE behind t VERSES (0 to 99)", "-6, just outside, and the farthest", () -> {
             CHECKS.refusedEach(WhichOneAllKnow::new, -6, "late(_, 0)", (x, t) -> x.late(t, 0), Checks.outside(0, 99));
-            CHECKS.refusedEach(WhichOneAllKnow::new, -6, "late(_, NONE)", (x, t) -> x.late(t, NONE), Checks.outside(0, 99));
+            CHECKS.refusedEach(WhichOneAllKnow::new, -6, "late(_, NONE)", (x, t) -> x.late(t, NONE),
+                    Checks.outside(0, 99));
         });
-        CHECKS.test(27, "the organ LEADS by n (NONE: it FOLLOWS). -6.", "n just outside of NONE to 9, and the farthest", () -> {
+        CHECKS.test(27, "the organ LEADS by n (NONE: it FOLLOWS). -6.",
+                "n just outside of NONE to 9, and the farthest", () -> {
             CHECKS.refusedEach(WhichOneAllKnow::new, -6, "late(0, _)", (x, n) -> x.late(0, n), Checks.outside(-1, 9));
             CHECKS.refused(WhichOneAllKnow::new, -6, "late(100, 10)", x -> x.late(100, 10));
         });
     }
 
     private static void ahead() {
-        CHECKS.test(28, "AHEAD: the least n by which LATE is l (0 to 99) at most behind t", "just at most l, one above it", () -> {
+        CHECKS.test(28, "AHEAD: the least n by which LATE is l (0 to 99) at most behind t",
+                "just at most l, one above it", () -> {
             int[][] cases = {
                 // WAIT, t, l, due
-                {2, 10, 9, 2}, {2, 10, 10, 1}, {2, 10, 19, 1}, {2, 10, 20, 0}, {9, 99, 99, 8}, {9, 99, 98, 9}, {9, 11, 99, 0},
+                {2, 10, 9, 2}, {2, 10, 10, 1}, {2, 10, 19, 1}, {2, 10, 20, 0}, {9, 99, 99, 8}, {9, 99, 98, 9},
+                        {9, 11, 99, 0},
                 {9, 12, 99, 1}, {1, 99, 99, 0}, {1, 99, 98, 1},
             };
             for (int[] c : cases) {
                 CHECKS.due("ahead(" + c[1] + ", " + c[2] + "), WAIT " + c[0], waiting(c[0]).ahead(c[1], c[2]), c[3]);
             }
         });
-        CHECKS.test(28, "AHEAD: the least n by which LATE is l (0 to 99) at most behind t", "no VERSES, WAIT 0, l 0", () -> {
+        CHECKS.test(28, "AHEAD: the least n by which LATE is l (0 to 99) at most behind t", "no VERSES, WAIT 0, l 0",
+                () -> {
             for (int wait = 0; wait <= 9; wait++) {
                 CHECKS.due("ahead(0, 0), WAIT " + wait, waiting(wait).ahead(0, 0), 0);
                 CHECKS.due("ahead(99, 0), WAIT " + wait, waiting(wait).ahead(99, 0), wait);
                 CHECKS.due("ahead(1, 99), WAIT " + wait, waiting(wait).ahead(1, 99), 0);
             }
         });
+        CHECKS.test(28, "AHEAD; NONE. -16 (counted as -6).",
+                "there is always one, as n may be 9 and WAIT is 9 at most", () -> {
+            for (int wait = 0; wait <= 9; wait++) {
+                WhichOneAllKnow x = waiting(wait);
+                for (int t = 0; t <= 99; t += 3) {
+                    for (int l : new int[] {0, 1, 49, 99}) {
+                        int least = 0;
+                        while (t * (wait - least) > l) {
+                            least++;
+                        }
+                        CHECKS.due("ahead(" + t + ", " + l + "), WAIT " + wait, x.ahead(t, l), least);
+                    }
+                }
+            }
+        });
         CHECKS.test(28, "AHEAD; NONE. -16 (counted as -6).", "t, l just outside of 0 to 99, and the farthest", () -> {
-            CHECKS.refusedEach(WhichOneAllKnow::new, -16, "ahead(_, 0)", (x, t) -> x.ahead(t, 0), Checks.outside(0, 99));
-            CHECKS.refusedEach(WhichOneAllKnow::new, -16, "ahead(0, _)", (x, l) -> x.ahead(0, l), Checks.outside(0, 99));
+            CHECKS.refusedEach(WhichOneAllKnow::new, -16, "ahead(_, 0)", (x, t) -> x.ahead(t, 0),
+                    Checks.outside(0, 99));
+            CHECKS.refusedEach(WhichOneAllKnow::new, -16, "ahead(0, _)", (x, l) -> x.ahead(0, l),
+                    Checks.outside(0, 99));
             CHECKS.refused(WhichOneAllKnow::new, -16, "ahead(100, -1)", x -> x.ahead(100, -1));
         });
     }
@@ -597,10 +644,12 @@ public final class OutcomesTest {
             CHECKS.due("known(99, 2)", x.known(99, 2), 32);
             CHECKS.due("of one", State.read("tune 0;tune 0;voice 0 0 0 0 0;knows 0 1").known(0, 2), 2);
         });
-        CHECKS.test(31, "the VOICE whose KNOWS is the same as most others', of several the first", "alike, two, three", () -> {
+        CHECKS.test(31, "the VOICE whose KNOWS is the same as most others', of several the first", "alike, two, three",
+                () -> {
             CHECKS.due("of one", State.read("voice 0 0 0 0 0").known(-5, 3), 0);
             CHECKS.due("all differ", State.read("tune 0;voice 0 0 0 0 0;voice 0 0 1 0 0;knows 1 0").known(0, 3), 0);
-            CHECKS.due("two and two", apart(11, ";knows 0 0;knows 1 1;knows 2 2;knows 3 1;knows 4 2;knows 5 0;knows 5 1")
+            CHECKS.due("two and two",
+                    apart(11, ";knows 0 0;knows 1 1;knows 2 2;knows 3 1;knows 4 2;knows 5 0;knows 5 1")
                     .known(0, 3), 1);
             CHECKS.due("two and three", apart(11, ";knows 0 0;knows 1 0;knows 2 2;knows 4 2;knows 5 2;knows 3 1")
                     .known(99, 3), 2);
@@ -608,10 +657,12 @@ public final class OutcomesTest {
         });
         CHECKS.test(31, "ASK looks at all TUNES one KNOWS together.", "not at how many, not at one of them", () -> {
             // 0 and 1 KNOW as many, and 0 shares a TUNE with each; only 4 and 5 KNOW the same
-            WhichOneAllKnow x = apart(11, ";knows 0 0;knows 0 1;knows 1 0;knows 1 2;knows 2 0;knows 3 1;knows 4 2;knows 5 2");
+            WhichOneAllKnow x = apart(11,
+                    ";knows 0 0;knows 0 1;knows 1 0;knows 1 2;knows 2 0;knows 3 1;knows 4 2;knows 5 2");
             CHECKS.due("known(0, 3)", x.known(0, 3), 4);
         });
-        CHECKS.test(31, "the VOICE whose KNOWS is the same as most others', of several the first", "the last two of twelve", () -> {
+        CHECKS.test(31, "the VOICE whose KNOWS is the same as most others', of several the first",
+                "the last two of twelve", () -> {
             WhichOneAllKnow x = twelve("0-0 1-1 2-2 3-3 4-4 5-5 6-0 6-1 7-0 7-2 8-0 8-3 9-0 9-4");
             CHECKS.due("known(0, 3)", x.known(0, 3), 10);
         });

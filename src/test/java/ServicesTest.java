@@ -98,7 +98,8 @@ public final class ServicesTest {
             CHECKS.due("61, 0", judged(fresh(), 61, 0), 0);
             CHECKS.due("1, 1, 201", judged(fresh(), 1, 1, 201), 2);
         });
-        CHECKS.test(32, "by the first n elements (0 to 40) of the ROW in SHELF s", "none, of an empty ROW, of one that may not be", () -> {
+        CHECKS.test(32, "by the first n elements (0 to 40) of the ROW in SHELF s",
+                "none, of an empty ROW, of one that may not be", () -> {
             WhichOneAllKnow x = learners();
             CHECKS.due("judge(2, 0)", x.judge(2, 0), NONE);
             CHECKS.due("judge(4, 0)", x.judge(4, 0), NONE);
@@ -108,7 +109,8 @@ public final class ServicesTest {
             CHECKS.due("judge(0, 0) of nobody", nobody.judge(0, 0), NONE);
             CHECKS.noneRefused(nobody);
         });
-        CHECKS.test(32, "by the first n elements (0 to 40) of the ROW in SHELF s", "forty; what stands behind doesn't count", () -> {
+        CHECKS.test(32, "by the first n elements (0 to 40) of the ROW in SHELF s",
+                "forty; what stands behind doesn't count", () -> {
             WhichOneAllKnow x = learners();
             x.set(6, 40, 0);
             CHECKS.due("judge(6, 40)", x.judge(6, 40), NONE);
@@ -120,8 +122,10 @@ public final class ServicesTest {
     }
 
     private static void judgeRefuses() {
-        CHECKS.test(32, "-11; -12; -13; -14 n; -15 fewer elements; -16 n above 40 (counted as -1 to -6).", "-11, no such SHELF", () ->
-                CHECKS.refusedEach(ServicesTest::learners, -11, "judge(_, 0)", (x, s) -> x.judge(s, 0), Checks.outside(0, 7)));
+        CHECKS.test(32, "-11; -12; -13; -14 n; -15 fewer elements; -16 n above 40 (counted as -1 to -6).",
+                "-11, no such SHELF", () ->
+                CHECKS.refusedEach(ServicesTest::learners, -11, "judge(_, 0)", (x, s) -> x.judge(s, 0),
+                        Checks.outside(0, 7)));
         CHECKS.test(32, "-12; -13; -14 n;", "-12, a VOICE; -13, NOTHING", () -> {
             CHECKS.refused(ServicesTest::learners, -12, "judge(5, 0)", x -> x.judge(5, 0));
             CHECKS.refused(ServicesTest::learners, -13, "judge(3, 0)", x -> x.judge(3, 0));
@@ -244,7 +248,8 @@ public final class ServicesTest {
         int[] byVerses = {1, 2, 3, 4, 5, 7, 8, 9, 10};
         for (int promise = 33; promise <= 34; promise++) {
             boolean inTruth = promise == 34;
-            CHECKS.test(promise, TOLD, "each TUNE of six, each PITCH, 1 to 9 VERSES" + (inTruth ? ", in truth" : ""), () -> {
+            CHECKS.test(promise, TOLD, "each TUNE of six, each PITCH, 1 to 9 VERSES" + (inTruth ? ", in truth" : ""),
+                    () -> {
                 for (int told = 1; told < 600; told++) {
                     int pitch = told % 100 / 10;
                     int n = told % 10;
@@ -272,20 +277,23 @@ public final class ServicesTest {
 
     private static void behindRefuses() {
         CHECKS.test(33, "-1; -2; -3; -4; -5 also another what; -6 also if it is WRONG.", "-1, no such SHELF", () ->
-                CHECKS.refusedEach(ServicesTest::learners, -1, "behind(_, 0, 0)", (x, s) -> x.behind(s, 0, 0), Checks.outside(0, 7)));
+                CHECKS.refusedEach(ServicesTest::learners, -1, "behind(_, 0, 0)", (x, s) -> x.behind(s, 0, 0),
+                        Checks.outside(0, 7)));
         CHECKS.test(33, "-2; -3; -4;", "-2, a VOICE; -3, NOTHING; -4, n below 0", () -> {
             CHECKS.refused(ServicesTest::learners, -2, "behind(5, 0, 0)", x -> x.behind(5, 0, 0));
             CHECKS.refused(ServicesTest::learners, -3, "behind(3, 0, 0)", x -> x.behind(3, 0, 0));
             CHECKS.refusedEach(ServicesTest::learners, -4, "behind(6, _, 0)", (x, n) -> x.behind(6, n, 0), -1, MIN);
         });
-        CHECKS.test(33, "-5 BEYOND: an element that isn't there", "one more than there are: of none, one, forty, 41", () -> {
+        CHECKS.test(33, "-5 BEYOND: an element that isn't there", "one more than there are: of none, one, forty, 41",
+                () -> {
             CHECKS.refusedEach(ServicesTest::learners, -5, "behind(2, _, 0)", (x, n) -> x.behind(2, n, 0), 1, MAX);
             CHECKS.refusedEach(ServicesTest::learners, -5, "behind(4, _, 0)", (x, n) -> x.behind(4, n, 0), 2);
             CHECKS.refusedEach(ServicesTest::learners, -5, "behind(1, _, 0)", (x, n) -> x.behind(1, n, 0), 41);
             CHECKS.refusedEach(ServicesTest::learners, -5, "behind(6, _, 0)", (x, n) -> x.behind(6, n, 0), 42);
         });
         CHECKS.test(33, "-5 also another what;", "just outside of 0 to 2, and the farthest", () ->
-                CHECKS.refusedEach(ServicesTest::learners, -5, "behind(6, 1, _)", (x, w) -> x.behind(6, 1, w), Checks.outside(0, 2)));
+                CHECKS.refusedEach(ServicesTest::learners, -5, "behind(6, 1, _)", (x, w) -> x.behind(6, 1, w),
+                        Checks.outside(0, 2)));
         CHECKS.test(33, "-6 also if it is WRONG.", "one that may not be, the first or the last; n above 40", () -> {
             CHECKS.refusedEach(ServicesTest::learners, -6, "behind(4, 1, _)", (x, w) -> x.behind(4, 1, w), 0, 1, 2);
             CHECKS.refusedEach(ServicesTest::learners, -6, "behind(6, 41, _)", (x, w) -> x.behind(6, 41, w), 0, 1, 2);
@@ -316,7 +324,8 @@ public final class ServicesTest {
             nobody.row(0, 0, 0);
             CHECKS.due("done(0, 0) of nobody", nobody.done(0, 0), 0);
         });
-        CHECKS.test(34, "It comes to pass in truth: HYMNS.", "some, then forty: KNOWS and HYMNS become so, SEED stays", () -> {
+        CHECKS.test(34, "It comes to pass in truth: HYMNS.", "some, then forty: KNOWS and HYMNS become so, SEED stays",
+                () -> {
             WhichOneAllKnow x = learners();
             State.row(x, 0, 2, 1, 109, 2);
             CHECKS.due("done(0, 2)", x.done(0, 2), 2);
@@ -349,7 +358,8 @@ public final class ServicesTest {
 
     private static void doneRefuses() {
         CHECKS.test(34, "-1; -2; -3; -4; -5; -6 likewise.", "-1, no such SHELF", () ->
-                CHECKS.refusedEach(ServicesTest::learners, -1, "done(_, 0)", (x, s) -> x.done(s, 0), Checks.outside(0, 7)));
+                CHECKS.refusedEach(ServicesTest::learners, -1, "done(_, 0)", (x, s) -> x.done(s, 0),
+                        Checks.outside(0, 7)));
         CHECKS.test(34, "-2; -3; -4; -5; -6 likewise.", "-2, a VOICE; -3, NOTHING; -4, n below 0", () -> {
             CHECKS.refused(ServicesTest::learners, -2, "done(5, 0)", x -> x.done(5, 0));
             CHECKS.refused(ServicesTest::learners, -3, "done(3, 0)", x -> x.done(3, 0));
@@ -426,13 +436,16 @@ public final class ServicesTest {
 
     private static void hymnRefuses() {
         CHECKS.test(35, "how many sang RIGHT at the last. -1; -6.", "-1, no such TUNE", () -> {
-            CHECKS.refusedEach(ServicesTest::learners, -1, "hymn(_, 0, 1)", (x, t) -> x.hymn(t, 0, 1), Checks.outside(0, 1));
+            CHECKS.refusedEach(ServicesTest::learners, -1, "hymn(_, 0, 1)", (x, t) -> x.hymn(t, 0, 1),
+                    Checks.outside(0, 1));
             CHECKS.refused(WhichOneAllKnow::new, -1, "hymn(0, 0, 1)", x -> x.hymn(0, 0, 1));
         });
         CHECKS.test(35, "a number that may not be (a PITCH, a VERSE", "-6, PITCH just outside of 0 to 5", () ->
-                CHECKS.refusedEach(ServicesTest::learners, -6, "hymn(0, _, 1)", (x, p) -> x.hymn(0, p, 1), Checks.outside(0, 5)));
+                CHECKS.refusedEach(ServicesTest::learners, -6, "hymn(0, _, 1)", (x, p) -> x.hymn(0, p, 1),
+                        Checks.outside(0, 5)));
         CHECKS.test(35, "and the VERSES (1 to 9)", "-6, just outside, and the farthest", () ->
-                CHECKS.refusedEach(ServicesTest::learners, -6, "hymn(0, 0, _)", (x, n) -> x.hymn(0, 0, n), Checks.outside(1, 9)));
+                CHECKS.refusedEach(ServicesTest::learners, -6, "hymn(0, 0, _)", (x, n) -> x.hymn(0, 0, n),
+                        Checks.outside(1, 9)));
         CHECKS.test(35, IN_ORDER, "-1 ahead of -6", () ->
                 CHECKS.order(ServicesTest::learners, 0, "hymn", (x, n) -> x.hymn(n[0], n[1], n[2]),
                         new int[][] {{0, 0}, {2, -1}, {-1, -1}}, new int[][] {{0, 0}, {6, -6}, {-1, -6}},
@@ -555,7 +568,8 @@ public final class ServicesTest {
             }
             CHECKS.due("status(6)", x.status(6), (int) draws.seed);
         });
-        CHECKS.test(36, "YEARS come to pass in truth, SEED too.", "KNOWS, HYMNS, SEED; all come back by restore()", () -> {
+        CHECKS.test(36, "YEARS come to pass in truth, SEED too.", "KNOWS, HYMNS, SEED; all come back by restore()",
+                () -> {
             WhichOneAllKnow x = State.read("tune 0;voice 2 0 0 0 11");
             x.image();
             CHECKS.due("years(1)", x.years(1), 1);
@@ -575,13 +589,15 @@ public final class ServicesTest {
             CHECKS.refused(() -> State.read("voice 0 0 0 0 0"), -5, "years(60)", x -> x.years(60));
         });
         CHECKS.test(36, "n HYMNS (1 to 60)", "-6, just outside, and the farthest; SEED stays", () ->
-                CHECKS.refusedEach(ServicesTest::learners, -6, "years(_)", (x, n) -> x.years(n), Checks.outside(1, 60)));
+                CHECKS.refusedEach(ServicesTest::learners, -6, "years(_)", (x, n) -> x.years(n),
+                        Checks.outside(1, 60)));
         CHECKS.test(36, IN_ORDER, "-5 ahead of -6", () ->
                 CHECKS.refusedEach(WhichOneAllKnow::new, -5, "years(_)", (x, n) -> x.years(n), Checks.outside(1, 60)));
     }
 
     private static void seed() {
-        CHECKS.test(37, "SEED becomes v: what it was (nothing is refused).", "any int: 0, -1, the greatest, the least", () -> {
+        CHECKS.test(37, "SEED becomes v: what it was (nothing is refused).", "any int: 0, -1, the greatest, the least",
+                () -> {
             WhichOneAllKnow x = new WhichOneAllKnow();
             int was = 1;
             for (int v : new int[] {-5, MIN, 0, MAX, -1, 1}) {

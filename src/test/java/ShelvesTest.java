@@ -123,7 +123,8 @@ public final class ShelvesTest {
                 }
             }
         });
-        CHECKS.test(2, "0 to 160 elements, 0 at first", "nothing of the ROW ahead is left, once it is long again", () -> {
+        CHECKS.test(2, "0 to 160 elements, 0 at first", "nothing of the ROW ahead is left, once it is long again",
+                () -> {
             WhichOneAllKnow x = filled();
             x.row(6, 0, 0);
             x.row(6, 3, 160);
@@ -211,7 +212,8 @@ public final class ShelvesTest {
     }
 
     private static void copy() {
-        CHECKS.test(4, "come to elements j, j + 1, .. of that in q", "from and to the first, from and to the last", () -> {
+        CHECKS.test(4, "come to elements j, j + 1, .. of that in q", "from and to the first, from and to the last",
+                () -> {
             WhichOneAllKnow x = filled();
             CHECKS.due("copy(0, 2, 0, 0, 1)", x.copy(0, 2, 0, 0, 1), 1);
             CHECKS.due("copy(0, 2, 1, 3, 2)", x.copy(0, 2, 1, 3, 2), 1);
@@ -249,7 +251,8 @@ public final class ShelvesTest {
             CHECKS.due("copy(2, 2, 1, 0, 4)", x.copy(2, 2, 1, 0, 4), 1);
             elements(x, 2, 1, 2, 3, 4, 4);
         });
-        CHECKS.test(4, "of that in q (as they were ahead): 1.", "of each SORT, the greatest and the least of it", () -> {
+        CHECKS.test(4, "of that in q (as they were ahead): 1.", "of each SORT, the greatest and the least of it",
+                () -> {
             long[] most = {Byte.MAX_VALUE, Short.MAX_VALUE, MAX, Long.MAX_VALUE};
             for (int sort = 0; sort <= 3; sort++) {
                 WhichOneAllKnow x = new WhichOneAllKnow();
@@ -265,11 +268,15 @@ public final class ShelvesTest {
 
     private static void copyRefuses() {
         CHECKS.test(4, "-1; -2 also of two SORTS", "-1, no such SHELF p, or q, or both", () -> {
-            CHECKS.refusedEach(ShelvesTest::filled, -1, "copy(_, 0, 0, 0, 1)", (x, p) -> x.copy(p, 0, 0, 0, 1), NO_SHELF);
-            CHECKS.refusedEach(ShelvesTest::filled, -1, "copy(0, _, 0, 0, 1)", (x, q) -> x.copy(0, q, 0, 0, 1), NO_SHELF);
-            CHECKS.refusedEach(ShelvesTest::filled, -1, "copy(_, _, 0, 0, 1)", (x, p) -> x.copy(p, p, 0, 0, 1), NO_SHELF);
+            CHECKS.refusedEach(ShelvesTest::filled, -1, "copy(_, 0, 0, 0, 1)", (x, p) -> x.copy(p, 0, 0, 0, 1),
+                    NO_SHELF);
+            CHECKS.refusedEach(ShelvesTest::filled, -1, "copy(0, _, 0, 0, 1)", (x, q) -> x.copy(0, q, 0, 0, 1),
+                    NO_SHELF);
+            CHECKS.refusedEach(ShelvesTest::filled, -1, "copy(_, _, 0, 0, 1)", (x, p) -> x.copy(p, p, 0, 0, 1),
+                    NO_SHELF);
         });
-        CHECKS.test(4, "a SHELF that holds a VOICE where a ROW is wanted", "-2 in p, in q, in both, beside NOTHING", () -> {
+        CHECKS.test(4, "a SHELF that holds a VOICE where a ROW is wanted", "-2 in p, in q, in both, beside NOTHING",
+                () -> {
             int[][] pairs = {{3, 0}, {0, 3}, {3, 3}, {3, 4}, {4, 3}};
             for (int[] c : pairs) {
                 CHECKS.refused(ShelvesTest::filled, -2, "copy(" + c[0] + ", " + c[1] + ", 0, 0, 1)",
@@ -297,7 +304,8 @@ public final class ShelvesTest {
             }
         });
         CHECKS.test(4, "-4 n;", "-1 and the least", () ->
-                CHECKS.refusedEach(ShelvesTest::filled, -4, "copy(0, 2, 0, 0, _)", (x, n) -> x.copy(0, 2, 0, 0, n), -1, MIN));
+                CHECKS.refusedEach(ShelvesTest::filled, -4, "copy(0, 2, 0, 0, _)", (x, n) -> x.copy(0, 2, 0, 0, n), -1,
+                        MIN));
         CHECKS.test(4, "-5 i or j below 0", "-1 and the least, of some and of none", () -> {
             for (int n : new int[] {0, 1}) {
                 CHECKS.refusedEach(ShelvesTest::filled, -5, "copy(0, 2, _, 0, " + n + ")",
@@ -342,7 +350,8 @@ public final class ShelvesTest {
             elements(x, 1, 0, Long.MIN_VALUE);
             CHECKS.due("element(6, 159)", x.element(6, 159), 9);
         });
-        CHECKS.test(5, "0 if there is none (nothing is refused)", "just outside, of an empty ROW, and the farthest", () -> {
+        CHECKS.test(5, "0 if there is none (nothing is refused)", "just outside, of an empty ROW, and the farthest",
+                () -> {
             WhichOneAllKnow x = filled();
             int[] ends = {3, 2, 5, 0, 0, 0, 160};
             for (int s = 0; s < ends.length; s++) {
@@ -368,7 +377,8 @@ public final class ShelvesTest {
     }
 
     private static void show() {
-        CHECKS.test(6, "SHELF s holds a VOICE, or NOTHING (voice NONE): 1, 0.", "the first and the last VOICE and SHELF", () -> {
+        CHECKS.test(6, "SHELF s holds a VOICE, or NOTHING (voice NONE): 1, 0.",
+                "the first and the last VOICE and SHELF", () -> {
             WhichOneAllKnow x = State.full();
             CHECKS.due("show(0, 0)", x.show(0, 0), 1);
             CHECKS.due("show(7, 11)", x.show(7, 11), 1);
@@ -377,7 +387,8 @@ public final class ShelvesTest {
             CHECKS.due("holds(7)", x.holds(7), 11);
             CHECKS.due("holds(6)", x.holds(6), 11);
         });
-        CHECKS.test(6, "SHELF s holds a VOICE, or NOTHING (voice NONE): 1, 0.", "in place of a ROW, a VOICE, NOTHING", () -> {
+        CHECKS.test(6, "SHELF s holds a VOICE, or NOTHING (voice NONE): 1, 0.", "in place of a ROW, a VOICE, NOTHING",
+                () -> {
             for (int s : new int[] {0, 3, 4, 6}) {
                 WhichOneAllKnow x = filled();
                 CHECKS.due("show(" + s + ", NONE)", x.show(s, NONE), 0);
@@ -393,10 +404,12 @@ public final class ShelvesTest {
             CHECKS.refusedEach(ShelvesTest::filled, -1, "show(_, 0)", (x, s) -> x.show(s, 0), NO_SHELF);
             CHECKS.refusedEach(ShelvesTest::filled, -1, "show(_, NONE)", (x, s) -> x.show(s, NONE), NO_SHELF);
         });
-        CHECKS.test(6, "-1 NOBODY: no such SHELF, VOICE, TUNE, KIND.", "no such VOICE, just beyond the last, of nobody, of 12", () -> {
+        CHECKS.test(6, "-1 NOBODY: no such SHELF, VOICE, TUNE, KIND.",
+                "no such VOICE, just beyond the last, of nobody, of 12", () -> {
             CHECKS.refusedEach(ShelvesTest::filled, -1, "show(0, _)", (x, v) -> x.show(0, v), 1, -2, 12, MIN, MAX);
             CHECKS.refusedEach(ShelvesTest::filled, -1, "show(4, _)", (x, v) -> x.show(4, v), 1, -2);
-            CHECKS.refusedEach(WhichOneAllKnow::new, -1, "show(0, _) where nobody is", (x, v) -> x.show(0, v), 0, -2, 100);
+            CHECKS.refusedEach(WhichOneAllKnow::new, -1, "show(0, _) where nobody is", (x, v) -> x.show(0, v), 0, -2,
+                    100);
             CHECKS.refusedEach(State::full, -1, "show(0, _) of 12", (x, v) -> x.show(0, v), 12, -2, 100, 103);
             CHECKS.refused(ShelvesTest::filled, -1, "show(8, 1), both", x -> x.show(8, 1));
         });
@@ -454,7 +467,8 @@ public final class ShelvesTest {
             {5, -2, 9, -2, -2, 9, -2},
             {6, -2, -2, -2, 6, -2, 6},
         };
-        CHECKS.test(8, "What the VOICE in SHELF s, taken for one of a KIND, says", "each KIND for each, the greatest", () -> {
+        CHECKS.test(8, "What the VOICE in SHELF s, taken for one of a KIND, says", "each KIND for each, the greatest",
+                () -> {
             WhichOneAllKnow x = kinds(true);
             for (int s = 0; s <= 6; s++) {
                 for (int kind = 0; kind <= 6; kind++) {
@@ -462,7 +476,8 @@ public final class ShelvesTest {
                 }
             }
         });
-        CHECKS.test(8, "What the VOICE in SHELF s, taken for one of a KIND, says", "each KIND for each, the least", () -> {
+        CHECKS.test(8, "What the VOICE in SHELF s, taken for one of a KIND, says", "each KIND for each, the least",
+                () -> {
             WhichOneAllKnow x = kinds(false);
             for (int s = 0; s <= 6; s++) {
                 for (int kind = 1; kind <= 6; kind++) {
@@ -475,6 +490,22 @@ public final class ShelvesTest {
             CHECKS.due("says(0, 0)", x.says(0, 0), 0);
             x.move(0, 23);
             CHECKS.due("says(0, 0) once he moved", x.says(0, 0), 23);
+        });
+        CHECKS.test(8, "LEADING, BOOMER his TOP;", "0 and 11, of a BOOMER for either", () -> {
+            for (boolean greatest : new boolean[] {false, true}) {
+                WhichOneAllKnow x = kinds(greatest);
+                CHECKS.due("says(1, 1)", x.says(1, 1), greatest ? 11 : 0);
+                CHECKS.due("says(3, 1)", x.says(3, 1), greatest ? 11 : 0);
+                CHECKS.due("says(3, 3)", x.says(3, 3), greatest ? 11 : 0);
+            }
+        });
+        CHECKS.test(8, "JOINING, MIME his a;", "0 and 9, of a MIME for either", () -> {
+            for (boolean greatest : new boolean[] {false, true}) {
+                WhichOneAllKnow x = kinds(greatest);
+                CHECKS.due("says(2, 2)", x.says(2, 2), greatest ? 9 : 0);
+                CHECKS.due("says(5, 2)", x.says(5, 2), greatest ? 9 : 0);
+                CHECKS.due("says(5, 5)", x.says(5, 5), greatest ? 9 : 0);
+            }
         });
         CHECKS.test(8, "ASTRAY, DRAGGER how many TUNES he KNOWS", "what he KNOWS now: 0, 1, 6", () -> {
             WhichOneAllKnow x = kinds(false);
@@ -497,7 +528,8 @@ public final class ShelvesTest {
                 CHECKS.refused(() -> kinds(true), -2, "says(" + c[0] + ", " + c[1] + ")", x -> x.says(c[0], c[1]));
             }
         });
-        CHECKS.test(8, "or the other way about", "-2, a SHELF that holds a ROW, of each KIND and SORT, empty, too", () -> {
+        CHECKS.test(8, "or the other way about", "-2, a SHELF that holds a ROW, of each KIND and SORT, empty, too",
+                () -> {
             for (int s : new int[] {0, 1, 5, 6}) {
                 CHECKS.refusedEach(ShelvesTest::filled, -2, "says(" + s + ", _)", (x, k) -> x.says(s, k), 0, 1, 6);
             }

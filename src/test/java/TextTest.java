@@ -83,7 +83,8 @@ public final class TextTest {
             faults(small(), "wait 1;".repeat(22) + "wait1;", 158);
             faults(small(), "wait 1;".repeat(22) + "wait ", 159);
         });
-        CHECKS.test(16, "All is told over what there is", "VOICES and TUNES go on by number, the latest word holds", () -> {
+        CHECKS.test(16, "All is told over what there is", "VOICES and TUNES go on by number, the latest word holds",
+                () -> {
             WhichOneAllKnow x = reads(small(), "tune 7;voice 0 1 0 1 1;knows 2 2;wait 3;wait 4;moves 0 1;moves 0 2", 7);
             CHECKS.due("status(0)", x.status(0), 3);
             CHECKS.due("status(1)", x.status(1), 3);
@@ -95,20 +96,24 @@ public final class TextTest {
             CHECKS.due("status(6)", x.status(6), 1);
             CHECKS.noneRefused(x);
         });
-        CHECKS.test(16, "knows V U; moves V P (to a free PLACE); wait N.", "knows of one who KNOWS it leaves it so", () -> {
+        CHECKS.test(16, "knows V U; moves V P (to a free PLACE); wait N.", "knows of one who KNOWS it leaves it so",
+                () -> {
             WhichOneAllKnow x = small();
             x.knows(0, 1, true);
             CHECKS.due("voiceOf(0, 5)", reads(x, "knows 0 1;knows 0 1;knows 0 0", 3).voiceOf(0, 5), 3);
         });
-        CHECKS.test(16, "knows V U; moves V P (to a free PLACE); wait N.", "a PLACE left in the same text is free", () -> {
+        CHECKS.test(16, "knows V U; moves V P (to a free PLACE); wait N.", "a PLACE left in the same text is free",
+                () -> {
             WhichOneAllKnow x = reads(small(), "moves 0 0;moves 1 3;voice 0 0 23 0 0", 3);
             CHECKS.due("voiceOf(1, 2)", x.voiceOf(1, 2), 3);
             CHECKS.due("voiceOf(2, 2)", x.voiceOf(2, 2), 23);
         });
         CHECKS.test(16, "12 at most, each of a KIND", "a text may fill the CHURCH: 6 TUNES, 12 VOICES", () -> {
             WhichOneAllKnow x = reads(new WhichOneAllKnow(), "tune 1;tune 1;tune 1;tune 1;tune 1;tune 1", 6);
-            reads(x, "voice 0 0 0 0 0;voice 0 0 1 0 0;voice 0 0 2 0 0;voice 0 0 3 0 0;voice 0 0 4 0 0;voice 0 0 5 0 0", 6);
-            reads(x, "voice 0 0 6 0 0;voice 0 0 7 0 0;voice 0 0 8 0 0;voice 0 0 9 0 0;voice 0 0 10 0 0;voice 0 0 11 0 0;"
+            reads(x, "voice 0 0 0 0 0;voice 0 0 1 0 0;voice 0 0 2 0 0;voice 0 0 3 0 0;voice 0 0 4 0 0;voice 0 0 5 0 0",
+                    6);
+            reads(x,
+                    "voice 0 0 6 0 0;voice 0 0 7 0 0;voice 0 0 8 0 0;voice 0 0 9 0 0;voice 0 0 10 0 0;voice 0 0 11 0 0;"
                     + "knows 11 5", 7);
             CHECKS.due("status(0)", x.status(0), 12);
             CHECKS.due("status(1)", x.status(1), 6);
@@ -117,7 +122,8 @@ public final class TextTest {
     }
 
     private static void numbers() {
-        CHECKS.test(16, "One blank between words and NUMBERS (1 to 2 digits)", "one digit and two, the greatest of each", () -> {
+        CHECKS.test(16, "One blank between words and NUMBERS (1 to 2 digits)",
+                "one digit and two, the greatest of each", () -> {
             reads(small(), "tune 0;tune 00;tune 11", 3);
             reads(small(), "wait 9;wait 09;wait 00", 3);
             reads(small(), "voice 6 9 22 5 11;voice 06 09 02 05 01", 2);
@@ -134,7 +140,8 @@ public final class TextTest {
             CHECKS.due("highOf(2)", x.highOf(2), 3);
         });
         CHECKS.test(17, "NUMBERS (1 to 2 digits)", "no digit, and a third one", () ->
-                faults("tune x", 5, "tune ;", 5, "tune -1", 5, "tune +1", 5, "tune 111", 7, "tune 000", 7, "wait 001", 7,
+                faults("tune x", 5, "tune ;", 5, "tune -1", 5, "tune +1", 5, "tune 111", 7, "tune 000", 7, "wait 001",
+                        7,
                         "voice 0 0 000 0 0", 12, "knows 000 0", 8, "moves 0 001", 10, "moves 0  1", 8,
                         "tune \u002f", 5, "tune \u003a", 5, "tune 1\u002f", 6, "tune 1\u003a", 6));
         CHECKS.test(17, "One blank between words and NUMBERS", "none, two, another sign, one behind the last", () ->
@@ -144,7 +151,8 @@ public final class TextTest {
     }
 
     private static void rows() {
-        CHECKS.test(16, "A CHURCH by the ROW in SHELF s: how many ITEMS.", "of each SORT, in the first and the last SHELF", () -> {
+        CHECKS.test(16, "A CHURCH by the ROW in SHELF s: how many ITEMS.",
+                "of each SORT, in the first and the last SHELF", () -> {
             for (int sort = 0; sort <= 3; sort++) {
                 for (int s : new int[] {0, 7}) {
                     WhichOneAllKnow x = new WhichOneAllKnow();
@@ -158,7 +166,8 @@ public final class TextTest {
                 }
             }
         });
-        CHECKS.test(16, "Elements of a ROW of longs count by their lowest 32 bits", "letters and digits with more above", () -> {
+        CHECKS.test(16, "Elements of a ROW of longs count by their lowest 32 bits",
+                "letters and digits with more above", () -> {
             WhichOneAllKnow x = small();
             State.row(x, 1, 4294967296L + 'w', -4294967296L + 'a', 'i', 't', (1L << 40) + ' ', Long.MIN_VALUE + '3');
             CHECKS.due("church(1)", x.church(1), 1);
@@ -239,20 +248,24 @@ public final class TextTest {
             faults("tuna 1", 3, "tunes 1", 4, "move 0 0", 4, "know 0 0", 4, "voices 0", 5, "waits 1", 4, "tune\0", 4);
         });
         CHECKS.test(17, CANT_STAND, "; where a word or a NUMBER goes on, whatever comes behind it", () ->
-                faults("tun;x", 3, "wai;wait 1", 3, "wait;wait 1", 4, "wait ;x", 5, "voice 0;x", 7, "voice 0 0 0 0;x", 13,
+                faults("tun;x", 3, "wai;wait 1", 3, "wait;wait 1", 4, "wait ;x", 5, "voice 0;x", 7, "voice 0 0 0 0;x",
+                        13,
                         "wait 10;x", 5, "wait 1;knows;x", 12));
         CHECKS.test(17, CANT_STAND, "what stands behind an ITEM is neither ; nor the end", () ->
-                faults("tune 1,", 6, "tune 1x", 6, "tune 1\0", 6, "wait 1:wait 1", 6, "wait 01wait 1", 7, "knows 0 0 0", 9,
+                faults("tune 1,", 6, "tune 1x", 6, "tune 1\0", 6, "wait 1:wait 1", 6, "wait 01wait 1", 7,
+                        "knows 0 0 0", 9,
                         "knows 0 00;x", 11));
         CHECKS.test(17, CANT_STAND, "the first of several", () ->
-                faults("tune 12;x", 5, "wait 1;tune 12;tune 99", 12, "tunx 99", 3, "knows 9 9", 6, "voice 9 99 99 9 99", 6));
+                faults("tune 12;x", 5, "wait 1;tune 12;tune 99", 12, "tunx 99", 3, "knows 9 9", 6,
+                        "voice 9 99 99 9 99", 6));
     }
 
     private static void numbersThatMayNotBe() {
         CHECKS.test(17, FIRST_DIGIT, "tune H: 11 may be, 12 not", () ->
                 faults("tune 12", 5, "tune 99", 5, "tune 12;", 5, "tune 123", 5, "tune 12x", 5, "wait 1;tune 20", 12));
         CHECKS.test(17, FIRST_DIGIT, "voice K: 6 may be, 7 not", () ->
-                faults("voice 7 0 0 0 0", 6, "voice 07 0 0 0 0", 6, "voice 10 0 0 0 0", 6, "voice 7", 6, "voice 7x", 6));
+                faults("voice 7 0 0 0 0", 6, "voice 07 0 0 0 0", 6, "voice 10 0 0 0 0", 6, "voice 7", 6, "voice 7x",
+                        6));
         CHECKS.test(17, FIRST_DIGIT, "voice A: 9 may be, 10 not", () ->
                 faults("voice 0 10 0 0 0", 8, "voice 0 99 0 0 0", 8, "voice 0 10", 8));
         CHECKS.test(17, FIRST_DIGIT, "voice P: 23 may be, 24 not", () -> {
@@ -322,7 +335,8 @@ public final class TextTest {
             CHECKS.due("status(0)", reads(x, "voice 0 0 0 0 0", 1).status(0), 1);
             faults(x, "tune 0", 0);
         });
-        CHECKS.test(17, LETTERS_STAND, "until then the first letter that is not as it is, or the number of elements", () -> {
+        CHECKS.test(17, LETTERS_STAND, "until then the first letter that is not as it is, or the number of elements",
+                () -> {
             faults(State.full(), "tun", 3);
             faults(State.full(), "t", 1);
             faults(State.full(), "tunx", 3);
@@ -336,7 +350,8 @@ public final class TextTest {
     }
 
     private static void allOrNothing() {
-        CHECKS.test(16, "All is told over what there is, or nothing", "each word is told ahead of a FAULT at the end", () -> {
+        CHECKS.test(16, "All is told over what there is, or nothing", "each word is told ahead of a FAULT at the end",
+                () -> {
             for (String item : new String[] {"tune 1", "voice 0 0 0 0 0", "knows 0 0", "moves 0 0", "wait 1"}) {
                 faults(small(), item + ";x", item.length() + 1);
                 faults(small(), item + ";", item.length() + 1);
@@ -360,7 +375,8 @@ public final class TextTest {
             CHECKS.due("fault()", x.fault(), NONE);
             CHECKS.noneRefused(x);
         });
-        CHECKS.test(17, "NONE: there was none, or none yet.", "none by a text that can stand, behind one that can't", () -> {
+        CHECKS.test(17, "NONE: there was none, or none yet.", "none by a text that can stand, behind one that can't",
+                () -> {
             WhichOneAllKnow x = shelved("wait x");
             x.church(1);
             CHECKS.due("fault()", x.fault(), 5);
